@@ -34,7 +34,7 @@ public final class CellForge {
     public CellForge() {
     }
 
-    public int put(int signs) {
+    public int put(int signs) throws IllegalArgumentException, UnsupportedOperationException {
         int more = 0;
         for (int k = 0; k < 4; k++) {
             int sign = signs >>> 8 * k & 255;
@@ -52,14 +52,14 @@ public final class CellForge {
         return text.size;
     }
 
-    public void end(int n) {
+    public void end(int n) throws IllegalArgumentException {
         if (n < 0 || n > text.size) {
             throw new IllegalArgumentException();
         }
         text.size = n;
     }
 
-    public int read() {
+    public int read() throws UnsupportedOperationException {
         int kind = spareNetlist.scan(text);
         int foundAt = spareNetlist.faultLine;
         if (kind == 0) {
@@ -79,7 +79,7 @@ public final class CellForge {
         return faultLine;
     }
 
-    public int graph(int what) {
+    public int graph(int what) throws IllegalStateException, IllegalArgumentException {
         needState(hasNetlist);
         switch (what) {
             case 0:
@@ -95,7 +95,8 @@ public final class CellForge {
         }
     }
 
-    public int gate(int node, int what) {
+    public int gate(int node, int what)
+            throws IllegalStateException, IndexOutOfBoundsException, IllegalArgumentException {
         needState(hasNetlist);
         needPlace(nodes.isGate(node));
         switch (what) {
@@ -110,13 +111,13 @@ public final class CellForge {
         }
     }
 
-    public int output(int k) {
+    public int output(int k) throws IllegalStateException, IndexOutOfBoundsException {
         needState(hasNetlist);
         needPlace(k >= 0 && k < nodes.outputs);
         return nodes.results[k];
     }
 
-    public int value(int inputs) {
+    public int value(int inputs) throws IllegalStateException, IllegalArgumentException {
         needState(hasNetlist);
         if (inputs >>> nodes.inputs != 0) {
             throw new IllegalArgumentException();
@@ -129,7 +130,7 @@ public final class CellForge {
         return answer;
     }
 
-    public int balance() {
+    public int balance() throws IllegalStateException, UnsupportedOperationException {
         needState(hasNetlist);
         remaker.makeBalanced(nodes, spareNodes);
         needRoom(!spareNodes.full);
@@ -137,7 +138,7 @@ public final class CellForge {
         return nodes.gates;
     }
 
-    public int reduce() {
+    public int reduce() throws IllegalStateException, UnsupportedOperationException {
         needState(hasNetlist);
         functions.find(nodes);
         remaker.makeReduced(nodes, spareNodes, functions);
@@ -146,7 +147,7 @@ public final class CellForge {
         return nodes.gates;
     }
 
-    public int rewrite() {
+    public int rewrite() throws IllegalStateException, UnsupportedOperationException {
         needState(hasNetlist);
         needRoom(cuts.find(nodes, 4));
         remaker.makeRewritten(nodes, spareNodes, cuts, cone);
@@ -155,7 +156,8 @@ public final class CellForge {
         return nodes.gates;
     }
 
-    public int diagram(int k, int what) {
+    public int diagram(int k, int what)
+            throws IllegalStateException, IndexOutOfBoundsException, IllegalArgumentException {
         needState(hasNetlist);
         needPlace(k >= 0 && k < nodes.outputs);
         functions.find(nodes);
@@ -174,27 +176,28 @@ public final class CellForge {
         }
     }
 
-    public int differ(int k, int l) {
+    public int differ(int k, int l) throws IllegalStateException, IndexOutOfBoundsException {
         needState(hasNetlist);
         needPlace(k >= 0 && k < nodes.outputs && l >= 0 && l < nodes.outputs);
         functions.find(nodes);
         return functions.leastUnlike(nodes.results[k], nodes.results[l]);
     }
 
-    public int coverFew(int most) {
+    public int coverFew(int most)
+            throws IllegalStateException, IllegalArgumentException, UnsupportedOperationException {
         return coverBy(most, true);
     }
 
-    public int cover(int most) {
+    public int cover(int most) throws IllegalStateException, IllegalArgumentException, UnsupportedOperationException {
         return coverBy(most, false);
     }
 
-    public int depth() {
+    public int depth() throws IllegalStateException {
         needState(hasCover);
         return cells.greatest;
     }
 
-    public int cell(int c, int what) {
+    public int cell(int c, int what) throws IllegalStateException, IndexOutOfBoundsException, IllegalArgumentException {
         needState(hasCover);
         needPlace(c >= 0 && c < cells.size);
         if (what < 0) {
@@ -216,7 +219,7 @@ public final class CellForge {
         }
     }
 
-    public int sign(int k) {
+    public int sign(int k) throws IllegalStateException, IndexOutOfBoundsException {
         needState(hasCover);
         needPlace(k >= 0);
         if (!coverScript.ready) {
@@ -239,7 +242,7 @@ public final class CellForge {
         return kind;
     }
 
-    public int libraryCell(int i, int what) {
+    public int libraryCell(int i, int what) throws IndexOutOfBoundsException, IllegalArgumentException {
         needPlace(i >= 0 && i < kit.cells);
         switch (what) {
             case 0:
@@ -255,7 +258,7 @@ public final class CellForge {
         }
     }
 
-    public int map() {
+    public int map() throws IllegalStateException, UnsupportedOperationException {
         // A library that was read has a cell at least.
         needState(hasNetlist && kit.cells > 0);
         needRoom(cuts.find(nodes, 3));
@@ -264,7 +267,7 @@ public final class CellForge {
         return hasMapping ? mapping.size : NONE;
     }
 
-    public int mapped(int what) {
+    public int mapped(int what) throws IllegalStateException, IllegalArgumentException {
         needState(hasMapping);
         switch (what) {
             case 0:
@@ -278,7 +281,8 @@ public final class CellForge {
         }
     }
 
-    public int instance(int i, int what) {
+    public int instance(int i, int what)
+            throws IllegalStateException, IndexOutOfBoundsException, IllegalArgumentException {
         needState(hasMapping);
         needPlace(i >= 0 && i < mapping.size);
         if (what < 0) {
@@ -299,7 +303,7 @@ public final class CellForge {
         }
     }
 
-    public int mappedSign(int k) {
+    public int mappedSign(int k) throws IllegalStateException, IndexOutOfBoundsException {
         needState(hasMapping);
         needPlace(k >= 0);
         if (!mappedScript.ready) {
@@ -455,7 +459,7 @@ public final class CellForge {
         }
 
         /** A word of one to so many digits as a number; NONE if it is none. */
-        int number(int word, int mostDigits) {
+        int digits(int word, int mostDigits) {
             if (length(word) > mostDigits) {
                 return NONE;
             }
@@ -821,18 +825,20 @@ public final class CellForge {
             if (lesser == 1) {
                 return greater;
             }
-            return (lesser ^ 1) == greater ? 0 : 2 * gateOf(lesser, greater);
+            if ((lesser ^ 1) == greater) {
+                return 0;
+            }
+            int there = gateThere(lesser, greater);
+            return 2 * (there != 0 ? there : newGate(lesser, greater));
         }
 
-        private int gateOf(int lesser, int greater) {
+        /** 0 if there is none. */
+        private int gateThere(int lesser, int greater) {
             int gate = first[lesser];
-            for (int n = 0; n < MOST_GATES && gate != 0; n++) {
-                if (high[gate] == greater) {
-                    return gate;
-                }
+            for (int n = 0; n < MOST_GATES && gate != 0 && high[gate] != greater; n++) {
                 gate = chain[gate];
             }
-            return newGate(lesser, greater);
+            return gate;
         }
 
         /** Where there is no room, 0 stands for the gate: what is made then is thrown away. */
@@ -1161,11 +1167,12 @@ public final class CellForge {
 
         private void takeCut(long cut) {
             Arrays.fill(side, OUTSIDE);
-            size = Math.min(Cuts.sizeOf(cut), Cuts.MOST_SIZE);
+            size = Cuts.sizeOf(cut);
             for (int k = 0; k < size; k++) {
-                nodes[k] = Cuts.nodeAt(cut, k);
-                side[nodes[k]] = AT_CUT;
-                values[nodes[k]] = PATTERNS[k];
+                int node = (int) (cut >>> 8 * (size - 1 - k) & 255);
+                nodes[k] = node;
+                side[node] = AT_CUT;
+                values[node] = PATTERNS[k];
             }
         }
 
@@ -1596,8 +1603,8 @@ public final class CellForge {
 
         private boolean takeCell(Text text) {
             names[cells] = text.name(1);
-            areas[cells] = text.number(2, 3);
-            delays[cells] = text.number(3, 2);
+            areas[cells] = text.digits(2, 3);
+            delays[cells] = text.digits(3, 2);
             for (int p = 1; p <= MOST_PINS; p++) {
                 if (text.length(4) == 1 << p) {
                     pins[cells] = p;
@@ -1766,10 +1773,10 @@ public final class CellForge {
                 greatest = Math.max(greatest, timeOf(made[literal]));
                 pins |= (long) literal << CELL_AT - PIN_BITS * (k + 1);
             }
-            return matchOf(cell, greatest, pins, library);
+            return pack(cell, greatest, pins, library);
         }
 
-        private static long matchOf(int cell, int pinTime, long pins, Library library) {
+        private static long pack(int cell, int pinTime, long pins, Library library) {
             long time = pinTime + library.delays[cell];
             return time << TIME_AT | (long) library.areas[cell] << AREA_AT | (long) cell << CELL_AT | pins;
         }
@@ -1781,7 +1788,7 @@ public final class CellForge {
                 return own;
             }
             long pins = (long) (literal ^ 1) << CELL_AT - PIN_BITS;
-            long turn = matchOf(library.inverter, timeOf(opposite), pins, library);
+            long turn = pack(library.inverter, timeOf(opposite), pins, library);
             return turn >>> AREA_AT < own >>> AREA_AT ? turn : own;
         }
 
