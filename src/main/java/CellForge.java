@@ -1526,7 +1526,7 @@ public final class CellForge {
             }
             for (int k = 0; k < graph.outputs; k++) {
                 int literal = graph.results[k];
-                script.writeResult(netlist, k, literal & ~1, literal);
+                script.writeResult(netlist, k, literal & ~1, (literal & 1) != 0);
             }
             script.close();
         }
@@ -1833,8 +1833,7 @@ public final class CellForge {
                 script.signs.append('\n');
             }
             for (int k = 0; k < graph.outputs; k++) {
-                int literal = graph.results[k];
-                script.writeResult(netlist, k, literal, literal & ~1);
+                script.writeResult(netlist, k, graph.results[k], false);
             }
             script.close();
         }
@@ -1886,8 +1885,8 @@ public final class CellForge {
             signs.append(node);
         }
 
-        /** Output k as the literal that is named, or, where asked is odd, its opposite. */
-        void writeResult(Netlist netlist, int k, int named, int asked) {
+        /** Output k as the literal that is named, or its opposite. */
+        void writeResult(Netlist netlist, int k, int named, boolean isTurned) {
             boolean isFixed = named < 2;
             signs.append(".names");
             if (!isFixed) {
@@ -1896,8 +1895,8 @@ public final class CellForge {
             writeName(netlist.outputNames[k]);
             signs.append('\n');
             if (!isFixed) {
-                signs.append((asked & 1) == 0 ? "1 1\n" : "0 1\n");
-            } else if ((named & 1) != 0 || (asked & 1) != 0) {
+                signs.append(isTurned ? "0 1\n" : "1 1\n");
+            } else if (named == 1 || isTurned) {
                 signs.append("1\n");
             }
         }

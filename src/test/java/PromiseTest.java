@@ -152,6 +152,7 @@ public final class PromiseTest {
         promise = 4;
         fault("", 1, 1);
         fault("\n\n", 1, 3);
+        fault("\n".repeat(1600), 1, 1601);
         fault("# .inputs a", 1, 1);
         fault(".inputs", 1, 0);
         fault(".inputs a b c d e f g h i", 1, 0);
@@ -460,6 +461,12 @@ public final class PromiseTest {
         due("a b", more.gate(7, 0) * 100 + more.gate(7, 1), 204);
         due("(a b) d", more.gate(8, 0) * 100 + more.gate(8, 1), 814);
         due("y", more.output(0), 16);
+        CellForge always = done(".inputs a b c\n.outputs y z\n.names a b a y\n110 1\n.names a c a t\n110 0\n"
+                + ".names y t z\n01 1\n.end");
+        due("a b, (a b) and not a, a c, (a c) and not a, neither", always.graph(2), 5);
+        due("a b and a c are left", always.rewrite(), 2);
+        due("a table of zeros", always.output(0), 0);
+        due("a table of ones", always.output(1), 1);
         CellForge great = done(manyGates());
         due("cover(4) of those", great.cover(4) > 0 ? 1 : 0, 1);
         int gates = great.graph(2);
