@@ -1,4 +1,5 @@
 import java.util.ArrayList;
+import java.util.Collections;
 import java.util.List;
 import java.util.Random;
 
@@ -11,7 +12,7 @@ public final class FuzzTest {
 
     private final long seed;
     private final Random random;
-    private final CellForge forge = new CellForge();
+    private final Forge forge = new Forge(false);
     private final Oracle oracle = new Oracle();
     private final StringBuilder story = new StringBuilder();
     private int answer;
@@ -46,29 +47,31 @@ public final class FuzzTest {
 
     private void run() {
         int size = (int) (seed % 5);
-        lookAtAll();
+        lookAtAll(size);
         int steps = size >= 3 ? 5 : 9;
         for (int n = 0; n < steps && wrong < 5; n++) {
             if (n == 0 || random.nextInt(4) == 0) {
-                putText(random.nextInt(5) == 0 ? mutate(netlist(size)) : netlist(size));
-                int kind = call("read", 0, 0);
-                seen[kind == Integer.MIN_VALUE ? 5 : kind]++;
-                call("line", 0, 0);
+                if (putText(random.nextInt(5) == 0 ? mutate(netlist(size)) : netlist(size), size)) {
+                    int kind = call("read", 0, 0);
+                    seen[kind == Integer.MIN_VALUE ? 5 : kind]++;
+                }
             }
             if (n == 1 || random.nextInt(4) == 0) {
-                putText(random.nextInt(5) == 0 ? mutate(cells()) : cells());
-                seen[6 + call("library", 0, 0)]++;
-                call("line", 0, 0);
+                if (putText(random.nextInt(5) == 0 ? mutate(cells()) : cells(), size)) {
+                    seen[6 + call("library", 0, 0)]++;
+                }
             }
-            step();
-            lookAtAll();
+            call("line", 0, 0);
+            step(size == 4 && n == 0);
+            lookAtAll(size);
         }
     }
 
-    private void step() {
+    private void step(boolean withMostCuts) {
         String[] steps = {"balance", "reduce", "rewrite", "cover", "coverFew", "map", "map", "library", "read"};
-        String step = steps[random.nextInt(steps.length)];
+        String step = withMostCuts ? "cover" : steps[random.nextInt(steps.length)];
         int most = random.nextInt(12) == 0 ? random.nextInt(9) - 1 : Math.min(5, 2 + random.nextInt(5));
+        most = withMostCuts ? 5 : most;
         int got = call(step, most, 0);
         if (step.equals("map") && got != Integer.MIN_VALUE) {
             seen[got == -1 ? 9 : 10]++;
@@ -77,108 +80,117 @@ public final class FuzzTest {
         seen[12] += step.startsWith("cover") && oracle.hasGraph() && got == Integer.MIN_VALUE && most >= 2 && most <= 5 ? 1 : 0;
     }
 
-    private void lookAtAll() {
-        call("line", 0, 0);
-        for (int what = -1; what <= 4; what++) {
-            call("graph", what, 0);
-            call("mapped", what, 0);
-            call("libraryCell", random.nextInt(14) - 1, what);
-            call("diagram", random.nextInt(8) - 1, what);
-            call("gate", random.nextInt(14) - 1, what);
-        }
-        for (int k = -1; k <= 6; k++) {
-            call("output", k, 0);
-            call("differ", k, random.nextInt(8) - 1);
-            for (int what = 0; what < 4; what++) {
-                call("diagram", k, what);
-            }
-        }
-        call("value", random.nextInt(600) - 20, 0);
-        call("value", random.nextInt(16), 0);
-        call("depth", 0, 0);
-        lookAtGates();
-        lookAtTables();
-        lookAtCells();
-        lookAtTexts();
+    private record Question(String name, int a, int b) {
     }
 
-    private void lookAtGates() {
+    /** Of a small object all questions, of a great one as many as a few objects can be asked. */
+    private void lookAtAll(int size) {
+        List<Question> questions = new ArrayList<>();
+        addFew(questions);
+        addGates(questions);
+        addCells(questions);
+        addTexts(questions);
+        int most = size >= 3 ? 300 : 3000;
+        if (questions.size() > most) {
+            Collections.shuffle(questions, random);
+            questions = questions.subList(0, most);
+        }
+        for (Question question : questions) {
+            call(question.name, question.a, question.b);
+        }
+        for (int in = 0; oracle.hasGraph() && in < 1 << oracle.graph(0); in++) {
+            due("value(" + in + ") and the tables", oracle.value(in), oracle.valueOfTables(in));
+        }
+    }
+
+    private static void add(List<Question> questions, String name, int a, int b) {
+        questions.add(new Question(name, a, b));
+    }
+
+    private void addFew(List<Question> questions) {
+        add(questions, "line", 0, 0);
+        add(questions, "put", 0, 0);
+        add(questions, "depth", 0, 0);
+        for (int what = -1; what <= 4; what++) {
+            add(questions, "graph", what, 0);
+            add(questions, "mapped", what, 0);
+            add(questions, "libraryCell", random.nextInt(14) - 1, what);
+            add(questions, "diagram", random.nextInt(8) - 1, what);
+            add(questions, "gate", random.nextInt(14) - 1, what);
+        }
+        for (int k = -1; k <= 6; k++) {
+            add(questions, "output", k, 0);
+            add(questions, "differ", k, random.nextInt(8) - 1);
+            for (int what = 0; what < 4; what++) {
+                add(questions, "diagram", k, what);
+            }
+        }
+        for (int in = -1; oracle.hasGraph() && in <= 1 << oracle.graph(0); in++) {
+            add(questions, "value", in, 0);
+        }
+    }
+
+    private void addGates(List<Question> questions) {
         if (!oracle.hasGraph()) {
             return;
         }
         int behind = 1 + oracle.graph(0) + oracle.graph(2);
         for (int node = oracle.graph(0); node <= behind; node++) {
-            call("gate", node, 0);
-            call("gate", node, 1);
-            call("gate", node, 2);
+            add(questions, "gate", node, 0);
+            add(questions, "gate", node, 1);
+            add(questions, "gate", node, 2);
         }
     }
 
-    private void lookAtTables() {
-        if (!oracle.hasGraph()) {
-            return;
-        }
-        for (int in = 0; in < 1 << oracle.graph(0); in++) {
-            due("value(" + in + ") and the tables", forge.value(in), oracle.valueOfTables(in));
-        }
-    }
-
-    private void lookAtCells() {
-        int cells = oracle.hasCover() ? 200 : 1;
+    private void addCells(List<Question> questions) {
+        int cells = oracle.hasCover() ? oracle.cellCount() : 0;
         for (int c = -1; c <= cells; c++) {
-            boolean isCell = call("cell", c, 0) != Integer.MIN_VALUE;
             for (int what = -1; what < 10; what++) {
-                call("cell", c, what);
-            }
-            if (!isCell && c >= 0) {
-                break;
+                add(questions, "cell", c, what);
             }
         }
-        int instances = oracle.isMapped() ? 420 : 1;
+        int instances = oracle.isMapped() ? oracle.mapped(0) : 0;
         for (int i = -1; i <= instances; i++) {
-            boolean isInstance = call("instance", i, 0) != Integer.MIN_VALUE;
-            for (int what = -1; what < 8; what++) {
-                call("instance", i, what);
-            }
-            if (!isInstance && i >= 0) {
-                break;
+            for (int what = -1; what < 7; what++) {
+                add(questions, "instance", i, what);
             }
         }
     }
 
-    private void lookAtTexts() {
-        call("sign", -1, 0);
-        call("mappedSign", -1, 0);
-        call("sign", 100000000, 0);
-        call("mappedSign", 100000000, 0);
-        call("sign", 0, 0);
-        call("mappedSign", 0, 0);
-        String written = oracle.hasCover() ? oracle.coverText() : "";
-        for (int k = 0; k <= written.length() && oracle.hasCover(); k++) {
-            due("sign(" + k + ")", forge.sign(k), k < written.length() ? written.charAt(k) : -1);
+    private void addTexts(List<Question> questions) {
+        int written = oracle.hasCover() ? oracle.coverText().length() : 0;
+        for (int k = -1; k <= written; k++) {
+            add(questions, "sign", k, 0);
         }
-        String mapped = oracle.isMapped() ? oracle.mappedText() : "";
-        for (int k = 0; k <= mapped.length() && oracle.isMapped(); k++) {
-            due("mappedSign(" + k + ")", forge.mappedSign(k), k < mapped.length() ? mapped.charAt(k) : -1);
+        int mapped = oracle.isMapped() ? oracle.mappedText().length() : 0;
+        for (int k = -1; k <= mapped; k++) {
+            add(questions, "mappedSign", k, 0);
         }
+        add(questions, "sign", 100000000, 0);
+        add(questions, "mappedSign", 100000000, 0);
     }
 
     // ---- texts
 
-    private void putText(String text) {
+    /** False, and nothing is put, if the object couldn't take so many calls more. */
+    private boolean putText(String text, int size) {
+        if (!forge.hasRoomFor(text.length() / (size >= 3 ? 4 : 3) + 12)) {
+            return false;
+        }
         call("end", 0, 0);
         story.append("text <<").append(text).append(">>\n");
         int at = 0;
         while (at < text.length()) {
             int signs = 0;
             for (int k = 0; k < 4; k++) {
-                if (at < text.length() && random.nextInt(20) != 0) {
+                if (at < text.length() && (size >= 3 || random.nextInt(20) != 0)) {
                     signs |= text.charAt(at) << 8 * k;
                     at++;
                 }
             }
             call("put", signs, 0);
         }
+        return true;
     }
 
     private String pick(List<String> from) {
@@ -324,7 +336,7 @@ public final class FuzzTest {
 
     private String thrown(boolean byForge, String name, int a, int b) {
         try {
-            answer = byForge ? ofForge(name, a, b) : ofOracle(name, a, b);
+            answer = byForge ? forge.call(name, a, b) : Calls.of(oracle, name, a, b);
             return "";
         } catch (IllegalStateException | IllegalArgumentException | IndexOutOfBoundsException
                 | UnsupportedOperationException e) {
@@ -334,64 +346,6 @@ public final class FuzzTest {
                 }
             }
             throw e;
-        }
-    }
-
-    private int ofForge(String name, int a, int b) {
-        switch (name) {
-            case "put": return forge.put(a);
-            case "end": forge.end(a); return 0;
-            case "read": return forge.read();
-            case "line": return forge.line();
-            case "graph": return forge.graph(a);
-            case "gate": return forge.gate(a, b);
-            case "output": return forge.output(a);
-            case "value": return forge.value(a);
-            case "balance": return forge.balance();
-            case "reduce": return forge.reduce();
-            case "rewrite": return forge.rewrite();
-            case "diagram": return forge.diagram(a, b);
-            case "differ": return forge.differ(a, b);
-            case "coverFew": return forge.coverFew(a);
-            case "cover": return forge.cover(a);
-            case "depth": return forge.depth();
-            case "cell": return forge.cell(a, b);
-            case "sign": return forge.sign(a);
-            case "library": return forge.library();
-            case "libraryCell": return forge.libraryCell(a, b);
-            case "map": return forge.map();
-            case "mapped": return forge.mapped(a);
-            case "instance": return forge.instance(a, b);
-            default: return forge.mappedSign(a);
-        }
-    }
-
-    private int ofOracle(String name, int a, int b) {
-        switch (name) {
-            case "put": return oracle.put(a);
-            case "end": return oracle.end(a);
-            case "read": return oracle.read();
-            case "line": return oracle.line();
-            case "graph": return oracle.graph(a);
-            case "gate": return oracle.gate(a, b);
-            case "output": return oracle.output(a);
-            case "value": return oracle.value(a);
-            case "balance": return oracle.balance();
-            case "reduce": return oracle.reduce();
-            case "rewrite": return oracle.rewrite();
-            case "diagram": return oracle.diagram(a, b);
-            case "differ": return oracle.differ(a, b);
-            case "coverFew": return oracle.coverFew(a);
-            case "cover": return oracle.cover(a);
-            case "depth": return oracle.depth();
-            case "cell": return oracle.cell(a, b);
-            case "sign": return oracle.sign(a);
-            case "library": return oracle.library();
-            case "libraryCell": return oracle.libraryCell(a, b);
-            case "map": return oracle.map();
-            case "mapped": return oracle.mapped(a);
-            case "instance": return oracle.instance(a, b);
-            default: return oracle.mappedSign(a);
         }
     }
 }

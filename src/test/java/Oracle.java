@@ -1314,6 +1314,10 @@ final class Oracle {
         return cover != null;
     }
 
+    int cellCount() {
+        return cover.size();
+    }
+
     boolean isMapped() {
         return mapping != null;
     }

@@ -1,66 +1,47 @@
 /** For each promise of the document: ordinary inputs, the edges that it names, and wrong inputs, found by hand. */
-public final class PromiseTest {
-    private static final Class<?> STATE = IllegalStateException.class;
-    private static final Class<?> ARGUMENT = IllegalArgumentException.class;
-    private static final Class<?> PLACE = IndexOutOfBoundsException.class;
-    private static final Class<?> TOO_GREAT = UnsupportedOperationException.class;
-    private static final int NONE = CellForge.NONE;
-
-    private static final String XOR = ".inputs a b\n.outputs y\n.names a b y\n10 1\n01 1\n.end\n";
+public final class PromiseTest extends Checks {
     private static final String AND4 = ".inputs a b c d\n.outputs y\n.names a b c d y\n1111 1\n.end\n";
     private static final String CHOICE = ".inputs a b\n.outputs y\n.names a b y\n11 1\n10 1\n.end\n";
     private static final String PAIRS = ".inputs a b c d\n.outputs C\n.names d c A\n11 1\n.names b a B\n11 1\n"
             + ".names A B C\n11 1\n.end\n";
     private static final String WIRES = ".inputs a b\n.outputs a zero one not\n.names zero\n.names one\n1\n"
             + ".names b not\n0 1\n.end\n";
-    private static final String NANDS = "cell inv 1 1 10\ncell nand 2 2 1110\n.end\n";
-    private static final String MAJORITY = "110 1\n1-1 1\n011 1\n";
-
-    private static int wrong = 0;
-    private static int promise = 0;
-
-    private interface Call {
-        int answer();
-    }
 
     public static void main(String[] args) {
-        newObject();
-        put();
-        end();
-        read();
-        readTooGreat();
-        line();
-        graph();
-        gate();
-        output();
-        value();
-        balance();
-        reduce();
-        rewrite();
-        diagram();
-        differ();
-        coverFew();
-        cover();
-        depth();
-        cell();
-        sign();
-        library();
-        libraryCell();
-        map();
-        mapped();
-        instance();
-        mappedSign();
-        whatStays();
-        System.out.println(wrong == 0 ? "all promises hold" : wrong + " answers are not as due");
-        System.exit(wrong == 0 ? 0 : 1);
+        says("Promise 1: a new object", PromiseTest::newObject);
+        says("Promise 2: put", PromiseTest::put);
+        says("Promise 3: end", PromiseTest::end);
+        says("Promise 4: read", PromiseTest::read);
+        says("Promise 5: line", PromiseTest::line);
+        says("Promise 6: graph", PromiseTest::graph);
+        says("Promise 7: gate", PromiseTest::gate);
+        says("Promise 8: output", PromiseTest::output);
+        says("Promise 9: value", PromiseTest::value);
+        says("Promise 10: balance", PromiseTest::balance);
+        says("Promise 11: reduce", PromiseTest::reduce);
+        says("Promise 12: rewrite", PromiseTest::rewrite);
+        says("Promise 13: diagram", PromiseTest::diagram);
+        says("Promise 14: differ", PromiseTest::differ);
+        says("Promise 15: coverFew", PromiseTest::coverFew);
+        says("Promise 16: cover", PromiseTest::cover);
+        says("Promise 17: depth", PromiseTest::depth);
+        says("Promise 18: cell", PromiseTest::cell);
+        says("Promise 19: sign", PromiseTest::sign);
+        says("Promise 20: library", PromiseTest::library);
+        says("Promise 21: libraryCell", PromiseTest::libraryCell);
+        says("Promise 22: map", PromiseTest::map);
+        says("Promise 23: mapped", PromiseTest::mapped);
+        says("Promise 24: instance", PromiseTest::instance);
+        says("Promise 25: mappedSign", PromiseTest::mappedSign);
+        says("The text stays when it is read.", PromiseTest::whatStays);
+        endTests();
     }
 
     // ---- promises 1 to 5
 
     private static void newObject() {
-        promise = 1;
-        CellForge forge = new CellForge();
-        due("NONE", NONE, -1);
+        Forge forge = new Forge();
+        due("NONE", CellForge.NONE, -1);
         due("line()", forge.line(), NONE);
         due("put(0)", forge.put(0), 0);
         needNoNetlist(forge);
@@ -76,7 +57,7 @@ public final class PromiseTest {
         due("line()", forge.line(), 1);
     }
 
-    private static void needNoNetlist(CellForge forge) {
+    private static void needNoNetlist(Forge forge) {
         thrown("graph(9)", STATE, () -> forge.graph(9));
         thrown("gate(-1, 9)", STATE, () -> forge.gate(-1, 9));
         thrown("output(-1)", STATE, () -> forge.output(-1));
@@ -92,8 +73,7 @@ public final class PromiseTest {
     }
 
     private static void put() {
-        promise = 2;
-        CellForge forge = new CellForge();
+        Forge forge = new Forge();
         due("four signs", forge.put('.' | 'i' << 8 | 'n' << 16 | 'p' << 24), 4);
         due("two signs", forge.put('u' << 8 | 't' << 24), 6);
         due("one sign", forge.put('s'), 7);
@@ -107,7 +87,7 @@ public final class PromiseTest {
         }
         due("put(0) behind those", forge.put(0), 25);
         due("the least and greatest signs", forge.put(32 | 126 << 8 | 10 << 16), 28);
-        fill(forge, 1598);
+        feed(forge, " ".repeat(1570));
         thrown("three more than 1600 hold", TOO_GREAT, () -> forge.put(0x202020));
         thrown("both faults", ARGUMENT, () -> forge.put(0x09202020));
         due("nothing was put", forge.put(0), 1598);
@@ -117,15 +97,8 @@ public final class PromiseTest {
         due("still as many", forge.put(0), 1600);
     }
 
-    private static void fill(CellForge forge, int size) {
-        for (int n = forge.put(0); n < size; n++) {
-            forge.put(' ');
-        }
-    }
-
     private static void end() {
-        promise = 3;
-        CellForge forge = with(XOR);
+        Forge forge = with(XOR);
         int size = XOR.length();
         thrown("end(-1)", ARGUMENT, () -> ended(forge, -1));
         thrown("end(size + 1)", ARGUMENT, () -> ended(forge, size + 1));
@@ -137,19 +110,12 @@ public final class PromiseTest {
         due("read() of .en", forge.read(), 1);
         due("end(0)", ended(forge, 0), 0);
         thrown("end(1) of none", ARGUMENT, () -> ended(forge, 1));
-        CellForge full = new CellForge();
-        fill(full, 1600);
+        Forge full = with(" ".repeat(1600));
         due("end(1600)", ended(full, 1600), 1600);
         thrown("end(1601)", ARGUMENT, () -> ended(full, 1601));
     }
 
-    private static int ended(CellForge forge, int n) {
-        forge.end(n);
-        return forge.put(0);
-    }
-
     private static void read() {
-        promise = 4;
         fault("", 1, 1);
         fault("\n\n", 1, 3);
         fault("\n".repeat(1600), 1, 1601);
@@ -228,81 +194,38 @@ public final class PromiseTest {
         }
         fault(tables + ".end", 0, NONE);
         fault(tables + ".names t0\n.end", 1, 62);
-        CellForge forge = with(tables + ".end");
+        Forge forge = with(tables + ".end");
         forge.read();
         due("a chain of thirty tables", forge.output(0), 3);
     }
 
     private static void building() {
-        CellForge forge = done(XOR);
+        Forge forge = done(XOR);
         due("row 10 first", forge.gate(3, 0) * 100 + forge.gate(3, 1), 205);
         due("then row 01", forge.gate(4, 0) * 100 + forge.gate(4, 1), 304);
         due("then OR", forge.gate(5, 0) * 100 + forge.gate(5, 1), 709);
         due("its opposite", forge.output(0), 11);
-        CellForge unasked = done(".inputs a b\n.outputs y\n.names t a y\n-1 1\n.names a b t\n11 1\n.end");
+        Forge unasked = done(".inputs a b\n.outputs y\n.names t a y\n-1 1\n.names a b t\n11 1\n.end");
         due("a table that no row asks is built", unasked.graph(2), 1);
         due("and not used", unasked.output(0), 2);
-        CellForge unneeded = done(".inputs a b\n.outputs a\n.names a b t\n11 1\n.end");
+        Forge unneeded = done(".inputs a b\n.outputs a\n.names a b t\n11 1\n.end");
         due("a table that no output needs is not built", unneeded.graph(2), 0);
-        CellForge wires = done(WIRES);
+        Forge wires = done(WIRES);
         due("an input", wires.output(0), 2);
         due("no rows", wires.output(1), 0);
         due("a row without inputs", wires.output(2), 1);
         due("the opposite", wires.output(3), 5);
-        CellForge zeros = done(".inputs a b\n.outputs y z w\n.names a b y\n11 0\n.names z\n0\n.names a w\n- 0\n.end");
+        Forge zeros = done(".inputs a b\n.outputs y z w\n.names a b y\n11 0\n.names z\n0\n.names a w\n- 0\n.end");
         due("rows that end with 0", zeros.output(0), 7);
         due("0 without inputs", zeros.output(1), 0);
         due("- alone, ending with 0", zeros.output(2), 0);
-        CellForge twice = done(".inputs a b\n.outputs y z\n.names a a y\n10 1\n.names a b a b z\n1111 1\n.end");
+        Forge twice = done(".inputs a b\n.outputs y z\n.names a a y\n10 1\n.names a b a b z\n1111 1\n.end");
         due("AND of opposites", twice.output(0), 0);
         due("AND of the same, (a b) a, ((a b) a) b", twice.graph(2), 3);
     }
 
-    /** Each table that follows makes one gate more: at 200 it ends. */
-    private static void readTooGreat() {
-        CellForge forge = with(longText(0));
-        due("read() of the beginning", forge.read(), 0);
-        int gates = forge.graph(2);
-        forge.end(0);
-        feed(forge, longText(200 - gates));
-        due("read() of 200 gates", forge.read(), 0);
-        due("200 gates", forge.graph(2), 200);
-        due("cover(2)", forge.cover(2) > 0 ? 1 : 0, 1);
-        forge.end(0);
-        feed(forge, ".inputs a");
-        due("read() of a fault", forge.read(), 1);
-        forge.end(0);
-        feed(forge, longText(201 - gates));
-        thrown("read() of 201 gates", TOO_GREAT, () -> forge.read());
-        due("the line stays", forge.line(), 1);
-        due("the graph stays", forge.graph(2), 200);
-        due("the cover stays", forge.depth() > 0 ? 1 : 0, 1);
-        due("and its text", forge.sign(0), '.');
-    }
-
-    private static String longText(int more) {
-        StringBuilder text = new StringBuilder(".inputs a b c d e f g h\n.outputs p q r s t");
-        text.append(more == 0 ? "" : " x" + more).append('\n');
-        String[] ins = {"a b c d e p", "b c d e f q", "c d e f g r", "d e f g h s", "g a h b t"};
-        for (String in : ins) {
-            text.append(".names ").append(in).append('\n');
-            int width = in.length() / 2;
-            for (int i = 0; i < 10; i++) {
-                for (int k = 0; k < width; k++) {
-                    text.append((i * 2 + (i >> 2 & 1)) >> k & 1);
-                }
-                text.append(" 1\n");
-            }
-        }
-        for (int n = 1; n <= more; n++) {
-            text.append(".names a ").append(n == 1 ? "t" : "x" + (n - 1)).append(" x").append(n).append("\n01 0\n");
-        }
-        return text.append(".end").toString();
-    }
-
     private static void line() {
-        promise = 5;
-        CellForge forge = new CellForge();
+        Forge forge = new Forge();
         due("line() of a new object", forge.line(), NONE);
         feed(forge, "\n\n.inputs 1-1\n");
         due("read()", forge.read(), 1);
@@ -325,8 +248,7 @@ public final class PromiseTest {
     // ---- promises 6 to 9
 
     private static void graph() {
-        promise = 6;
-        CellForge forge = done(XOR);
+        Forge forge = done(XOR);
         due("inputs", forge.graph(0), 2);
         due("outputs", forge.graph(1), 1);
         due("gates", forge.graph(2), 3);
@@ -334,10 +256,10 @@ public final class PromiseTest {
         thrown("graph(-1)", ARGUMENT, () -> forge.graph(-1));
         thrown("graph(4)", ARGUMENT, () -> forge.graph(4));
         due("level of wires", done(WIRES).graph(3), 0);
-        CellForge unasked = done(".inputs a b\n.outputs y\n.names t a y\n-1 1\n.names a b t\n11 1\n.end");
+        Forge unasked = done(".inputs a b\n.outputs y\n.names t a y\n-1 1\n.names a b t\n11 1\n.end");
         due("gates that no output needs, too", unasked.graph(2), 1);
         due("their level doesn't count", unasked.graph(3), 0);
-        CellForge again = done(AND4);
+        Forge again = done(AND4);
         again.end(0);
         feed(again, ".inputs a b c d e f g h\n.outputs y\n.names g h y\n11 1\n.end");
         again.read();
@@ -345,8 +267,7 @@ public final class PromiseTest {
     }
 
     private static void gate() {
-        promise = 7;
-        CellForge forge = done(XOR);
+        Forge forge = done(XOR);
         due("x", forge.gate(5, 0), 7);
         due("y", forge.gate(5, 1), 9);
         due("level", forge.gate(5, 2), 2);
@@ -360,19 +281,17 @@ public final class PromiseTest {
     }
 
     private static void output() {
-        promise = 8;
-        CellForge forge = done(WIRES);
+        Forge forge = done(WIRES);
         due("output(3)", forge.output(3), 5);
         thrown("output(4)", PLACE, () -> forge.output(4));
         thrown("output(-1)", PLACE, () -> forge.output(-1));
-        CellForge shared = done(".inputs a b\n.outputs y z\n.names a b y\n11 1\n.names b a z\n11 0\n.end");
+        Forge shared = done(".inputs a b\n.outputs y z\n.names a b y\n11 1\n.names b a z\n11 0\n.end");
         due("a gate", shared.output(0), 6);
         due("the opposite of the same", shared.output(1), 7);
     }
 
     private static void value() {
-        promise = 9;
-        CellForge forge = done(XOR);
+        Forge forge = done(XOR);
         int[] want = {0, 1, 1, 0};
         for (int in = 0; in < 4; in++) {
             due("value(" + in + ")", forge.value(in), want[in]);
@@ -382,7 +301,7 @@ public final class PromiseTest {
         thrown("value(MIN_VALUE)", ARGUMENT, () -> forge.value(Integer.MIN_VALUE));
         due("bit k is output k", done(WIRES).value(1), 1 | 4 | 8);
         due("bit k is output k", done(WIRES).value(2), 4);
-        CellForge eight = done(".inputs a b c d e f g h\n.outputs y z\n.names f g h y\n101 1\n.names h z\n1 1\n.end");
+        Forge eight = done(".inputs a b c d e f g h\n.outputs y z\n.names f g h y\n101 1\n.names h z\n1 1\n.end");
         due("value(160)", eight.value(160), 3);
         due("value(255)", eight.value(255), 2);
         due("value(95)", eight.value(95), 0);
@@ -392,8 +311,7 @@ public final class PromiseTest {
     // ---- promises 10 to 12
 
     private static void balance() {
-        promise = 10;
-        CellForge forge = done(AND4);
+        Forge forge = done(AND4);
         due("level", forge.graph(3), 3);
         forge.cover(2);
         due("balance()", forge.balance(), 3);
@@ -402,42 +320,41 @@ public final class PromiseTest {
         due("d and c first", forge.gate(5, 0) * 100 + forge.gate(5, 1), 608);
         due("then a and b", forge.gate(6, 0) * 100 + forge.gate(6, 1), 204);
         due("then both", forge.gate(7, 0) * 100 + forge.gate(7, 1), 1012);
-        CellForge used = done(".inputs a b c d\n.outputs y t\n.names a b t\n11 1\n.names t c d y\n111 1\n.end");
+        Forge used = done(".inputs a b c d\n.outputs y t\n.names a b t\n11 1\n.names t c d y\n111 1\n.end");
         due("an output's gate is not taken apart", used.balance(), 3);
         due("c and d first", used.gate(6, 0) * 100 + used.gate(6, 1), 608);
         due("then the output's", used.gate(7, 0) * 100 + used.gate(7, 1), 1012);
-        CellForge turned = done(".inputs a b c\n.outputs y\n.names a b t\n11 1\n.names t c y\n01 1\n.end");
+        Forge turned = done(".inputs a b c\n.outputs y\n.names a b t\n11 1\n.names t c y\n01 1\n.end");
         due("an opposite is not taken apart", turned.balance(), 2);
         due("its use", turned.gate(5, 0) * 100 + turned.gate(5, 1), 609);
-        CellForge spare = done(".inputs a b\n.outputs y\n.names t a y\n-1 1\n.names a b t\n11 1\n.end");
+        Forge spare = done(".inputs a b\n.outputs y\n.names t a y\n-1 1\n.names a b t\n11 1\n.end");
         due("what no output needs is left out", spare.balance(), 0);
-        CellForge same = done(".inputs a b c\n.outputs y\n.names t c y\n11 1\n.names a b c t\n111 1\n.end");
+        Forge same = done(".inputs a b c\n.outputs y\n.names t c y\n11 1\n.names a b c t\n111 1\n.end");
         due("c, c, a, b: the two alike are one", same.balance(), 2);
         due("gates that no output needs count as no use", unneededUse().balance(), 3);
     }
 
     /** The gate a b is used by y's and, once more, by a gate that no output needs. */
-    private static CellForge unneededUse() {
-        CellForge forge = done(".inputs a b c d\n.outputs y\n.names u t c d y\n-111 1\n.names t a u\n01 1\n"
+    private static Forge unneededUse() {
+        Forge forge = done(".inputs a b c d\n.outputs y\n.names u t c d y\n-111 1\n.names t a u\n01 1\n"
                 + ".names a b t\n11 1\n.end");
         due("four gates", forge.graph(2), 4);
         return forge;
     }
 
     private static void reduce() {
-        promise = 11;
-        CellForge forge = done(CHOICE);
+        Forge forge = done(CHOICE);
         due("gates", forge.graph(2), 3);
         forge.cover(2);
         due("reduce()", forge.reduce(), 2);
         thrown("no cover", STATE, () -> forge.depth());
         due("y is a", forge.output(0), 2);
         due("reduce() once more", forge.reduce(), 0);
-        CellForge fixed = done(".inputs a b\n.outputs y\n.names a b c y\n111 1\n.names a c\n0 1\n.end");
+        Forge fixed = done(".inputs a b\n.outputs y\n.names a b c y\n111 1\n.names a c\n0 1\n.end");
         due("(a b) and not a", fixed.graph(2), 2);
         due("only a b is left", fixed.reduce(), 1);
         due("y is 0", fixed.output(0), 0);
-        CellForge twins = done(".inputs a b c\n.outputs y z\n.names a b c y\n111 1\n.names c b a z\n111 0\n.end");
+        Forge twins = done(".inputs a b c\n.outputs y z\n.names a b c y\n111 1\n.names c b a z\n111 0\n.end");
         due("two ways", twins.graph(2), 4);
         due("one way, and the beginning of the other", twins.reduce(), 3);
         due("z is y's opposite", twins.output(1), twins.output(0) ^ 1);
@@ -445,35 +362,34 @@ public final class PromiseTest {
     }
 
     private static void rewrite() {
-        promise = 12;
-        CellForge forge = done(CHOICE);
+        Forge forge = done(CHOICE);
         forge.cover(2);
         due("rewrite()", forge.rewrite(), 2);
         thrown("no cover", STATE, () -> forge.depth());
         due("y is a", forge.output(0), 2);
         due("rewrite() once more", forge.rewrite(), 0);
-        CellForge xor = done(XOR);
+        Forge xor = done(XOR);
         due("a sum as dear as what is freed is not taken", xor.rewrite(), 3);
         due("y", xor.output(0), 11);
-        CellForge more = done(".inputs a b c d\n.outputs G\n.names a d B\n11 1\n.names B b D\n11 1\n.names D a G\n11 1\n.end");
+        Forge more = done(".inputs a b c d\n.outputs G\n.names a d B\n11 1\n.names B b D\n11 1\n.names D a G\n11 1\n.end");
         due("((a d) b) a", more.graph(2), 3);
         due("a b, (a b) d is cheaper, but the old gates stay", more.rewrite(), 4);
         due("a b", more.gate(7, 0) * 100 + more.gate(7, 1), 204);
         due("(a b) d", more.gate(8, 0) * 100 + more.gate(8, 1), 814);
         due("y", more.output(0), 16);
-        CellForge always = done(".inputs a b c\n.outputs y z\n.names a b a y\n110 1\n.names a c a t\n110 0\n"
+        Forge always = done(".inputs a b c\n.outputs y z\n.names a b a y\n110 1\n.names a c a t\n110 0\n"
                 + ".names y t z\n01 1\n.end");
         due("a b, (a b) and not a, a c, (a c) and not a, neither", always.graph(2), 5);
         due("a b and a c are left", always.rewrite(), 2);
         due("a table of zeros", always.output(0), 0);
         due("a table of ones", always.output(1), 1);
-        CellForge great = done(manyGates());
+        Forge great = done(manyGates());
         due("cover(4) of those", great.cover(4) > 0 ? 1 : 0, 1);
         int gates = great.graph(2);
         thrown("a 201st gate", TOO_GREAT, () -> great.rewrite());
         due("the gates stay", great.graph(2), gates);
         due("the cover stays", great.depth() > 0 ? 1 : 0, 1);
-        CellForge cuts = done(manyCutsOfFour());
+        Forge cuts = done(manyCutsOfFour());
         thrown("more than 300 cuts", TOO_GREAT, () -> cuts.rewrite());
         thrown("cover(4)", TOO_GREAT, () -> cuts.cover(4));
         due("cover(3)", cuts.cover(3) > 0 ? 1 : 0, 1);
@@ -491,21 +407,10 @@ public final class PromiseTest {
                 + "S R S U;T S U V;U T U W;W T W X;X X U Y;Y X Y Z;Y Y Z Ax");
     }
 
-    /** Tables of two inputs are their unlikeness, of three what most of them are. */
-    private static String woven(String inputs, String outputs, String tables) {
-        StringBuilder text = new StringBuilder(".inputs " + inputs + "\n.outputs " + outputs + "\n");
-        for (String table : tables.split(";")) {
-            boolean isOfTwo = table.split(" ").length == 3;
-            text.append(".names ").append(table).append('\n').append(isOfTwo ? "10 1\n01 1\n" : MAJORITY);
-        }
-        return text.append(".end").toString();
-    }
-
     // ---- promises 13 and 14
 
     private static void diagram() {
-        promise = 13;
-        CellForge forge = done(".inputs a b c\n.outputs y z w v\n.names b c y\n10 1\n01 1\n.names a y z\n10 1\n01 1\n"
+        Forge forge = done(".inputs a b c\n.outputs y z w v\n.names b c y\n10 1\n01 1\n.names a y z\n10 1\n01 1\n"
                 + ".names a b c w\n1-1 1\n01- 1\n.names c v\n0 1\n.end");
         int[][] want = {{3, 4, 2, 1}, {5, 4, 1, 0}, {3, 4, 2, 0}, {1, 4, 0, 2}};
         for (int k = 0; k < 4; k++) {
@@ -513,19 +418,19 @@ public final class PromiseTest {
                 due("diagram(" + k + ", " + what + ")", forge.diagram(k, what), want[k][what]);
             }
         }
-        CellForge wires = done(WIRES);
+        Forge wires = done(WIRES);
         int[][] plain = {{1, 2, 1, 0}, {0, 0, NONE, NONE}, {0, 4, 0, NONE}, {1, 2, 0, 1}};
         for (int k = 0; k < 4; k++) {
             for (int what = 0; what < 4; what++) {
                 due("diagram(" + k + ", " + what + ") of wires", wires.diagram(k, what), plain[k][what]);
             }
         }
-        CellForge eight = done(".inputs a b c d e f g h\n.outputs y\n.names g h y\n11 1\n.end");
+        Forge eight = done(".inputs a b c d e f g h\n.outputs y\n.names g h y\n11 1\n.end");
         due("ones", eight.diagram(0, 1), 64);
         due("least", eight.diagram(0, 2), 192);
         due("first asked", eight.diagram(0, 3), 6);
         due("size", eight.diagram(0, 0), 2);
-        CellForge pairs = done(".inputs a b c d e f g h\n.outputs y z\n.names a e p\n11 1\n.names b f q\n11 1\n"
+        Forge pairs = done(".inputs a b c d e f g h\n.outputs y z\n.names a e p\n11 1\n.names b f q\n11 1\n"
                 + ".names c g r\n11 1\n.names d h s\n11 1\n.names p q r s y\n0000 0\n.names a b c d z\n0000 0\n.end");
         due("an order that parts the pairs", pairs.diagram(0, 0), 30);
         due("one question for each", pairs.diagram(1, 0), 4);
@@ -536,15 +441,14 @@ public final class PromiseTest {
     }
 
     private static void differ() {
-        promise = 14;
-        CellForge forge = done(".inputs a b\n.outputs x y z\n.names a b x\n11 1\n.names b a y\n0- 0\n-0 0\n"
+        Forge forge = done(".inputs a b\n.outputs x y z\n.names a b x\n11 1\n.names b a y\n0- 0\n-0 0\n"
                 + ".names a b z\n1- 1\n.end");
         due("alike", forge.differ(0, 1), NONE);
         due("a without b", forge.differ(0, 2), 1);
         due("the other way", forge.differ(2, 1), 1);
         due("itself", forge.differ(2, 2), NONE);
         due("opposites differ at once", done(".inputs a\n.outputs a n\n.names a n\n0 1\n.end").differ(0, 1), 0);
-        CellForge late = done(".inputs a b c d e f g h\n.outputs y z\n.names y\n.names a h b c d z\n11111 1\n.end");
+        Forge late = done(".inputs a b c d e f g h\n.outputs y z\n.names y\n.names a h b c d z\n11111 1\n.end");
         due("a late one", late.differ(0, 1), 143);
         thrown("differ(-1, 0)", PLACE, () -> forge.differ(-1, 0));
         thrown("differ(0, 3)", PLACE, () -> forge.differ(0, 3));
@@ -555,8 +459,7 @@ public final class PromiseTest {
     // ---- promises 15 to 19
 
     private static void coverFew() {
-        promise = 15;
-        CellForge forge = done(PAIRS);
+        Forge forge = done(PAIRS);
         due("cover(3)", forge.cover(3), 3);
         due("coverFew(3)", forge.coverFew(3), 2);
         due("the last cell", forge.cell(1, 0), 7);
@@ -568,12 +471,12 @@ public final class PromiseTest {
         due("depth()", forge.depth(), 2);
         thrown("coverFew(1)", ARGUMENT, () -> forge.coverFew(1));
         thrown("coverFew(6)", ARGUMENT, () -> forge.coverFew(6));
-        CellForge wanted = done(".inputs a b c d\n.outputs C A\n.names b a A\n11 1\n.names d c B\n11 1\n"
+        Forge wanted = done(".inputs a b c d\n.outputs C A\n.names b a A\n11 1\n.names d c B\n11 1\n"
                 + ".names A B C\n11 1\n.end");
         due("a gate that is wanted costs nothing", wanted.coverFew(3), 2);
         due("it is taken", wanted.cell(1, 4), 3);
         due("with d", wanted.cell(1, 5), 4);
-        CellForge slow = done(".inputs a b c d\n.outputs y\n.names a b c d y\n1111 1\n.end");
+        Forge slow = done(".inputs a b c d\n.outputs y\n.names a b c d y\n1111 1\n.end");
         due("the depth stays the least", slow.coverFew(2), 3);
         due("depth()", slow.depth(), 3);
         thrown("301 cuts", TOO_GREAT, () -> done(cuts301()).coverFew(5));
@@ -591,8 +494,7 @@ public final class PromiseTest {
     }
 
     private static void cover() {
-        promise = 16;
-        CellForge forge = done(AND4);
+        Forge forge = done(AND4);
         due("cover(2)", forge.cover(2), 3);
         due("depth()", forge.depth(), 3);
         due("cover(3)", forge.cover(3), 2);
@@ -608,24 +510,23 @@ public final class PromiseTest {
         due("the cover stays", forge.cell(0, 1), 4);
         due("wires have no cells", done(WIRES).cover(4), 0);
         due("300 cuts", done(cuts300()).cover(5) > 0 ? 1 : 0, 1);
-        CellForge great = done(cuts301());
+        Forge great = done(cuts301());
         great.cover(4);
         int cells = great.cell(0, 0) * 1000 + great.depth();
         thrown("301 cuts", TOO_GREAT, () -> great.cover(5));
         due("the cover stays", great.cell(0, 0) * 1000 + great.depth(), cells);
-        CellForge both = done(".inputs a b\n.outputs y z\n.names a b y\n11 1\n.names a b z\n11 0\n.end");
+        Forge both = done(".inputs a b\n.outputs y z\n.names a b y\n11 1\n.names a b z\n11 0\n.end");
         due("a gate is one cell", both.cover(2), 1);
     }
 
     private static void depth() {
-        promise = 17;
-        CellForge forge = done(PAIRS);
+        Forge forge = done(PAIRS);
         thrown("depth() before a cover", STATE, () -> forge.depth());
         forge.cover(2);
         due("depth()", forge.depth(), 2);
         forge.cover(4);
         due("depth()", forge.depth(), 1);
-        CellForge wires = done(WIRES);
+        Forge wires = done(WIRES);
         wires.cover(2);
         due("depth() of wires", wires.depth(), 0);
         forge.end(0);
@@ -637,8 +538,7 @@ public final class PromiseTest {
     }
 
     private static void cell() {
-        promise = 18;
-        CellForge forge = done(XOR);
+        Forge forge = done(XOR);
         thrown("cell(0, 0) before a cover", STATE, () -> forge.cell(0, 0));
         forge.cover(2);
         int[] want = {5, 2, 9, 1, 1, 2};
@@ -651,34 +551,33 @@ public final class PromiseTest {
         thrown("cell(1, 0)", PLACE, () -> forge.cell(1, 0));
         thrown("cell(-1, -1)", PLACE, () -> forge.cell(-1, -1));
         thrown("cell(0, -1)", ARGUMENT, () -> forge.cell(0, -1));
-        CellForge five = done(".inputs a b c d e\n.outputs y\n.names a b c d e y\n11111 1\n.end");
+        Forge five = done(".inputs a b c d e\n.outputs y\n.names a b c d e y\n11111 1\n.end");
         five.cover(5);
         due("the highest bit", five.cell(0, 2), Integer.MIN_VALUE);
         due("input 4", five.cell(0, 8), 5);
         thrown("input 5", PLACE, () -> five.cell(0, 9));
-        CellForge order = done(PAIRS);
+        Forge order = done(PAIRS);
         order.cover(2);
         due("by numbers of gates", order.cell(0, 0) * 100 + order.cell(1, 0) * 10 + order.cell(2, 0), 567);
-        CellForge unlikely = done(".inputs a b c\n.outputs y p q\n.names a b p\n11 1\n.names a c q\n01 1\n"
+        Forge unlikely = done(".inputs a b c\n.outputs y p q\n.names a b p\n11 1\n.names a c q\n01 1\n"
                 + ".names p q y\n11 1\n.end");
         unlikely.cover(2);
         due("inputs that can't both be 1, all the same", unlikely.cell(2, 2), 8);
     }
 
     private static void sign() {
-        promise = 19;
-        CellForge forge = done(XOR);
+        Forge forge = done(XOR);
         thrown("sign(0) before a cover", STATE, () -> forge.sign(0));
         forge.cover(2);
         thrown("sign(-1)", PLACE, () -> forge.sign(-1));
         written("a cover", coverText(forge), ".inputs a b\n.outputs y\n.names a b n_5\n00 1\n11 1\n.names n_5 y\n0 1\n.end\n");
         due("behind the end", forge.sign(coverText(forge).length()), NONE);
         due("far behind", forge.sign(Integer.MAX_VALUE), NONE);
-        CellForge wires = done(WIRES);
+        Forge wires = done(WIRES);
         wires.coverFew(2);
         written("wires", coverText(wires), ".inputs a b\n.outputs a zero one not\n.names a a\n1 1\n.names zero\n"
                 + ".names one\n1\n.names b not\n0 1\n.end\n");
-        CellForge pairs = done(PAIRS);
+        Forge pairs = done(PAIRS);
         pairs.coverFew(3);
         written("few cells", coverText(pairs), ".inputs a b c d\n.outputs C\n.names c d n_5\n11 1\n"
                 + ".names a b n_5 n_7\n111 1\n.names n_7 C\n1 1\n.end\n");
@@ -688,8 +587,8 @@ public final class PromiseTest {
         readsAgain(coverText(forge), forge, 4);
     }
 
-    private static void readsAgain(String text, CellForge as, int count) {
-        CellForge again = done(text);
+    private static void readsAgain(String text, Forge as, int count) {
+        Forge again = done(text);
         for (int in = 0; in < count; in++) {
             due("what was written gives the same", again.value(in), as.value(in));
         }
@@ -698,7 +597,6 @@ public final class PromiseTest {
     // ---- promises 20 and 21
 
     private static void library() {
-        promise = 20;
         noLibrary("", 1, 1);
         noLibrary(".end", 1, 0);
         noLibrary("\n# x\n", 1, 3);
@@ -724,7 +622,7 @@ public final class PromiseTest {
         noLibrary("cell a 1 1 10\ncell a 2 2 0001\n.end", 2, 1);
         noLibrary("cell a 1 1 10\ncell a 2 2 001\n.end", 1, 1);
         noLibrary(XOR, 1, 0);
-        CellForge forge = with("# cells\n cell  a 0 1 10 # one\n\ncell A 999 99 00000001\n.end");
+        Forge forge = with("# cells\n cell  a 0 1 10 # one\n\ncell A 999 99 00000001\n.end");
         due("library()", forge.library(), 0);
         due("line()", forge.line(), NONE);
         StringBuilder many = new StringBuilder();
@@ -733,25 +631,17 @@ public final class PromiseTest {
         }
         due("twelve cells", with(many + ".end").library(), 0);
         noLibrary(many + "cell c0 1 1 01\n.end", 1, 12);
-        feedAnew(forge, "cell x 1 1 01\ncell x 1 1 01\n.end");
+        anew(forge, "cell x 1 1 01\ncell x 1 1 01\n.end");
         due("a fault", forge.library(), 2);
         due("the library stays", forge.libraryCell(1, 0), 999);
-        feedAnew(forge, "cell x 7 3 01\n.end");
+        anew(forge, "cell x 7 3 01\n.end");
         due("another", forge.library(), 0);
         due("its cell", forge.libraryCell(0, 0), 7);
         thrown("no other", PLACE, () -> forge.libraryCell(1, 0));
     }
 
-    private static void noLibrary(String text, int kind, int line) {
-        CellForge forge = with(text);
-        due("library() of <<" + text + ">>", forge.library(), kind);
-        due("its line", forge.line(), line);
-        thrown("no library", PLACE, () -> forge.libraryCell(0, 0));
-    }
-
     private static void libraryCell() {
-        promise = 21;
-        CellForge forge = with("cell inv 012 07 10\ncell nor 3 20 1000\ncell mux 999 99 01010011\n.end");
+        Forge forge = with("cell inv 012 07 10\ncell nor 3 20 1000\ncell mux 999 99 01010011\n.end");
         forge.library();
         int[][] want = {{12, 7, 1, 1}, {3, 20, 2, 1}, {999, 99, 3, 0b11001010}};
         for (int i = 0; i < 3; i++) {
@@ -768,8 +658,7 @@ public final class PromiseTest {
     // ---- promises 22 to 25
 
     private static void map() {
-        promise = 22;
-        CellForge forge = done(XOR);
+        Forge forge = done(XOR);
         thrown("map() without a library", STATE, () -> forge.map());
         kit(forge, NANDS);
         due("map()", forge.map(), 5);
@@ -783,10 +672,10 @@ public final class PromiseTest {
         due("one that gives the opposite does, if an input is turned", forge.map(), NONE);
         kit(forge, "cell inv 1 1 10\ncell xnor 9 9 1001\n.end");
         due("which an inverter does, or it is turned itself", forge.map(), 2);
-        CellForge wires = done(".inputs a b\n.outputs a zero one\n.names zero\n.names one\n1\n.end");
+        Forge wires = done(".inputs a b\n.outputs a zero one\n.names zero\n.names one\n1\n.end");
         kit(wires, "cell buf 1 1 01\n.end");
         due("nothing to make", wires.map(), 0);
-        CellForge none = new CellForge();
+        Forge none = new Forge();
         kit(none, NANDS);
         thrown("map() without a netlist", STATE, () -> none.map());
         dropped(done(XOR), 0);
@@ -796,22 +685,22 @@ public final class PromiseTest {
         kept(done(XOR));
     }
 
-    private static void dropped(CellForge forge, int by) {
+    private static void dropped(Forge forge, int by) {
         kit(forge, NANDS);
         forge.map();
-        feedAnew(forge, XOR);
+        anew(forge, XOR);
         int did = by == 0 ? forge.balance() : by == 1 ? forge.reduce() : by == 2 ? forge.rewrite() : forge.read();
         thrown("nothing is mapped any more (" + by + ", " + did + ")", STATE, () -> forge.mapped(0));
     }
 
-    private static void kept(CellForge forge) {
+    private static void kept(Forge forge) {
         kit(forge, NANDS);
         forge.cover(3);
         forge.map();
         due("a mapping leaves the cover", forge.depth(), 1);
         forge.coverFew(2);
         due("a cover leaves the mapping", forge.mapped(0), 5);
-        feedAnew(forge, "cell");
+        anew(forge, "cell");
         due("a library with a fault", forge.library(), 1);
         due("leaves the mapping", forge.mapped(0), 5);
         due("tables with a fault", forge.read(), 1);
@@ -821,8 +710,7 @@ public final class PromiseTest {
     }
 
     private static void mapped() {
-        promise = 23;
-        CellForge forge = done(XOR);
+        Forge forge = done(XOR);
         kit(forge, NANDS);
         thrown("mapped(0) before map()", STATE, () -> forge.mapped(0));
         forge.map();
@@ -831,20 +719,19 @@ public final class PromiseTest {
         due("time", forge.mapped(2), 5);
         thrown("mapped(3)", ARGUMENT, () -> forge.mapped(3));
         thrown("mapped(-1)", ARGUMENT, () -> forge.mapped(-1));
-        CellForge wires = done(WIRES);
+        Forge wires = done(WIRES);
         kit(wires, NANDS);
         due("one inverter", wires.map(), 1);
         due("its area", wires.mapped(1), 1);
         due("its time", wires.mapped(2), 1);
-        CellForge given = done(".inputs a\n.outputs a zero\n.names zero\n.end");
+        Forge given = done(".inputs a\n.outputs a zero\n.names zero\n.end");
         kit(given, NANDS);
         given.map();
         due("no time", given.mapped(2), 0);
     }
 
     private static void instance() {
-        promise = 24;
-        CellForge forge = done(XOR);
+        Forge forge = done(XOR);
         kit(forge, NANDS);
         thrown("instance(0, 0) before map()", STATE, () -> forge.instance(0, 0));
         forge.map();
@@ -855,7 +742,7 @@ public final class PromiseTest {
         thrown("instance(5, 0)", PLACE, () -> forge.instance(5, 0));
         thrown("instance(-1, -1)", PLACE, () -> forge.instance(-1, -1));
         thrown("instance(0, -1)", ARGUMENT, () -> forge.instance(0, -1));
-        CellForge and = done(".inputs a b\n.outputs y\n.names a b y\n11 1\n.end");
+        Forge and = done(".inputs a b\n.outputs y\n.names a b y\n11 1\n.end");
         matched(and, "cell and 1 3 0001\ncell nand 9 1 1110\ncell inv 1 1 10\n.end",
                 new int[][] {{6, 2, 2, 7}, {7, 1, 1, 2, 4}});
         matched(and, "cell and 1 2 0001\ncell nand 1 1 1110\ncell inv 1 1 10\n.end", new int[][] {{6, 0, 2, 2, 4}});
@@ -865,7 +752,7 @@ public final class PromiseTest {
         matched(and, "cell nor 1 2 1000\ncell i 1 9 10\ncell j 5 1 10\ncell k 4 1 10\ncell l 4 1 10\n.end",
                 new int[][] {{3, 3, 1, 2}, {5, 3, 1, 4}, {6, 0, 3, 3, 5}});
         matched(and, "cell cut 1 1 0100\ncell inv 1 1 10\n.end", new int[][] {{5, 1, 1, 4}, {6, 0, 2, 2, 5}});
-        CellForge three = done(".inputs a b c\n.outputs y\n.names a b c y\n111 1\n.end");
+        Forge three = done(".inputs a b c\n.outputs y\n.names a b c y\n111 1\n.end");
         int[][] byTwo = {{8, 0, 2, 2, 4}, {10, 0, 4, 6, 8}};
         matched(three, "cell and2 1 2 0001\ncell and3 1 3 00000001\n.end", new int[][] {{10, 1, 3, 2, 4, 6}});
         matched(three, "cell and2 1 2 0001\ncell and3 0 4 00000001\n.end", new int[][] {{10, 1, 4, 2, 4, 6}});
@@ -874,13 +761,13 @@ public final class PromiseTest {
         matched(three, "cell and2 9 2 0001\ncell and3 1 5 00000001\n.end", byTwo);
     }
 
-    private static void matched(CellForge forge, String library, int[][] want) {
+    private static void matched(Forge forge, String library, int[][] want) {
         kit(forge, library);
         due("map() with " + library, forge.map(), want.length);
         instances(forge, want);
     }
 
-    private static void instances(CellForge forge, int[][] want) {
+    private static void instances(Forge forge, int[][] want) {
         for (int i = 0; i < want.length; i++) {
             for (int what = 0; what < want[i].length; what++) {
                 due("instance(" + i + ", " + what + ")", forge.instance(i, what), want[i][what]);
@@ -889,8 +776,7 @@ public final class PromiseTest {
     }
 
     private static void mappedSign() {
-        promise = 25;
-        CellForge forge = done(XOR);
+        Forge forge = done(XOR);
         kit(forge, NANDS);
         thrown("mappedSign(0) before map()", STATE, () -> forge.mappedSign(0));
         forge.map();
@@ -900,12 +786,12 @@ public final class PromiseTest {
         written("a mapping", mappedText(forge), want);
         due("behind the end", forge.mappedSign(want.length()), NONE);
         due("far behind", forge.mappedSign(Integer.MAX_VALUE), NONE);
-        CellForge wires = done(WIRES);
+        Forge wires = done(WIRES);
         kit(wires, NANDS);
         wires.map();
         written("wires", mappedText(wires), ".inputs a b\n.outputs a zero one not\n.gate inv b m_2\n.names a a\n1 1\n"
                 + ".names zero\n.names one\n1\n.names m_2 not\n1 1\n.end\n");
-        CellForge and = done(".inputs a b\n.outputs y\n.names a b y\n11 1\n.end");
+        Forge and = done(".inputs a b\n.outputs y\n.names a b y\n11 1\n.end");
         kit(and, "cell and 1 3 0001\n.end");
         and.map();
         written("a gate", mappedText(and), ".inputs a b\n.outputs y\n.gate and a b n_3\n.names n_3 y\n1 1\n.end\n");
@@ -917,102 +803,13 @@ public final class PromiseTest {
 
     /** A call that throws changes nothing, and the text stays when it is read. */
     private static void whatStays() {
-        promise = 4;
-        CellForge forge = done(XOR);
+        Forge forge = done(XOR);
         due("the text stays", forge.put(0), XOR.length());
         due("read() again", forge.read(), 0);
-        feedAnew(forge, ".inputs a b c\n.outputs q\n.end");
+        anew(forge, ".inputs a b c\n.outputs q\n.end");
         due("a fault", forge.read(), 3);
         due("the inputs stay", forge.graph(0), 2);
         forge.cover(2);
         written("the names stay", coverText(forge).substring(0, 24), ".inputs a b\n.outputs y\n.");
-    }
-
-    // ---- what the tests use
-
-    private static void fault(String text, int kind, int line) {
-        CellForge forge = with(text);
-        due("read() of <<" + text + ">>", forge.read(), kind);
-        due("line() of <<" + text + ">>", forge.line(), line);
-        if (kind != 0) {
-            thrown("no netlist", STATE, () -> forge.graph(0));
-        }
-    }
-
-    private static CellForge with(String text) {
-        CellForge forge = new CellForge();
-        feed(forge, text);
-        return forge;
-    }
-
-    private static CellForge done(String text) {
-        CellForge forge = with(text);
-        due("read() of <<" + text + ">>", forge.read(), 0);
-        return forge;
-    }
-
-    private static void kit(CellForge forge, String cells) {
-        feedAnew(forge, cells);
-        due("library() of " + cells, forge.library(), 0);
-    }
-
-    private static void feedAnew(CellForge forge, String text) {
-        forge.end(0);
-        feed(forge, text);
-    }
-
-    private static void feed(CellForge forge, String text) {
-        for (int at = 0; at < text.length(); at += 4) {
-            int signs = 0;
-            for (int k = 0; k < 4 && at + k < text.length(); k++) {
-                signs |= text.charAt(at + k) << 8 * k;
-            }
-            forge.put(signs);
-        }
-    }
-
-    private static String coverText(CellForge forge) {
-        StringBuilder text = new StringBuilder();
-        for (int k = 0; forge.sign(k) != NONE; k++) {
-            text.append((char) forge.sign(k));
-        }
-        return text.toString();
-    }
-
-    private static String mappedText(CellForge forge) {
-        StringBuilder text = new StringBuilder();
-        for (int k = 0; forge.mappedSign(k) != NONE; k++) {
-            text.append((char) forge.mappedSign(k));
-        }
-        return text.toString();
-    }
-
-    private static void written(String what, String got, String want) {
-        if (!got.equals(want)) {
-            tell(what + " is written <<" + got + ">>, due is <<" + want + ">>");
-        }
-    }
-
-    private static void due(String what, int got, int want) {
-        if (got != want) {
-            tell(what + " answered " + got + ", due is " + want);
-        }
-    }
-
-    private static void thrown(String what, Class<?> want, Call call) {
-        Object got = "nothing";
-        try {
-            call.answer();
-        } catch (RuntimeException e) {
-            got = e.getClass();
-        }
-        if (got != want) {
-            tell(what + " throws " + got + ", due is " + want);
-        }
-    }
-
-    private static void tell(String what) {
-        wrong++;
-        System.out.println("promise " + promise + ": " + what);
     }
 }
