@@ -264,6 +264,27 @@ class Checks {
         return cuts == 300 ? new int[] {15, 20} : new int[] {7, 43};
     }
 
+    /** 200 gates of eight inputs, no two of them alike, and all of them needed. */
+    static String unlikeGates() {
+        StringBuilder text = new StringBuilder(".inputs a b c d e f g h\n.outputs t0 t1 t2 t3 t4\n");
+        int bits = 31;
+        for (int t = 0; t < 5; t++) {
+            text.append(".names");
+            for (int k = 0; k < 5; k++) {
+                text.append(' ').append("abcdefgh".charAt((2 * t + k) % 8));
+            }
+            text.append(" t").append(t).append('\n');
+            for (int r = 0; r < (t == 4 ? 8 : 16); r++) {
+                bits = bits * 33 + 31 & 0xFFFF;
+                for (int k = 4; k < 9; k++) {
+                    text.append(bits >> k & 1);
+                }
+                text.append(" 1\n");
+            }
+        }
+        return text.append(".end").toString();
+    }
+
     /** Tables of two inputs are their unlikeness, of three what most of them are. */
     static String woven(String inputs, String outputs, String tables) {
         StringBuilder text = new StringBuilder(".inputs " + inputs + "\n.outputs " + outputs + "\n");

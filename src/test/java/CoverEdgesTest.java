@@ -348,6 +348,8 @@ public final class CoverEdgesTest extends Checks {
         says("where one of its inputs can't be so together, too", CoverEdgesTest::impossible);
         says("its table (of five inputs an int with all its bits, perhaps below 0)", CoverEdgesTest::tables);
         says("Covers: how many cells.", CoverEdgesTest::howManyCells);
+        says("as the graph's gates between give it", CoverEdgesTest::greatestGraph);
+        says("no cover. (behind another graph)", CoverEdgesTest::anotherGraph);
     }
 
     private static void whichCells() {
@@ -418,6 +420,81 @@ public final class CoverEdgesTest extends Checks {
         due("cover(4) in its place", forge.cover(4), 1);
         thrown("one that was there", PLACE, () -> forge.cell(1, 0));
         due("its depth", forge.depth(), 1);
+    }
+
+    /** Of 200 gates and eight inputs the cells, from one to the next, give what the graph gives. */
+    private static void greatestGraph() {
+        String[] calls = {"cover", "coverFew"};
+        for (String call : calls) {
+            for (int most = 2; most <= 5; most++) {
+                Forge forge = done(unlikeGates());
+                int cells = forge.call(call, most, 0);
+                boolean[][] values = inputValues(forge);
+                for (int c = 0; c < cells; c++) {
+                    addCell(forge, c, most, values);
+                }
+                due("the last cell of " + call + "(" + most + ")", forge.cell(cells - 1, 0), 208);
+                compareOutputs(forge, values);
+            }
+        }
+    }
+
+    private static void addCell(Forge forge, int c, int most, boolean[][] values) {
+        int table = forge.cell(c, 2);
+        int width = forge.cell(c, 1);
+        due("inputs of cell " + c + " at most " + most, width <= most ? 1 : 0, 1);
+        boolean[] given = new boolean[256];
+        int[] inputs = new int[width];
+        for (int k = 0; k < width; k++) {
+            inputs[k] = forge.cell(c, 4 + k);
+        }
+        for (int in = 0; in < 256; in++) {
+            int bit = 0;
+            for (int k = 0; k < width; k++) {
+                bit |= values[inputs[k]][in] ? 1 << k : 0;
+            }
+            given[in] = (table >>> bit & 1) != 0;
+        }
+        values[forge.cell(c, 0)] = given;
+    }
+
+    private static boolean[][] inputValues(Forge forge) {
+        boolean[][] values = new boolean[1 + forge.graph(0) + forge.graph(2)][256];
+        for (int k = 0; k < 8; k++) {
+            for (int in = 0; in < 256; in++) {
+                values[k + 1][in] = (in >> k & 1) != 0;
+            }
+        }
+        return values;
+    }
+
+    private static void compareOutputs(Forge forge, boolean[][] values) {
+        int[] literals = new int[forge.graph(1)];
+        for (int k = 0; k < literals.length; k++) {
+            literals[k] = forge.output(k);
+        }
+        for (int in = 0; in < 256; in++) {
+            int want = 0;
+            for (int k = 0; k < literals.length; k++) {
+                want |= values[literals[k] >> 1][in] != ((literals[k] & 1) != 0) ? 1 << k : 0;
+            }
+            due("value(" + in + ") and the cells", forge.value(in), want);
+        }
+    }
+
+    private static void anotherGraph() {
+        Forge forge = done(AND4);
+        due("cover(3)", forge.cover(3), 2);
+        due("a sign of it", forge.sign(8), 'a');
+        forge.balance();
+        due("cover(3) of the balanced one", forge.cover(3), 3);
+        written("it", coverText(forge), ".inputs a b c d\n.outputs y\n.names c d n_5\n11 1\n.names a b n_6\n11 1\n"
+                + ".names n_5 n_6 n_7\n11 1\n.names n_7 y\n1 1\n.end\n");
+        due("cover(4)", forge.cover(4), 1);
+        anew(forge, ".inputs q r\n.outputs s\n.names q r s\n00 1\n.end");
+        due("read()", forge.read(), 0);
+        due("cover(4) of another", forge.cover(4), 1);
+        written("it", coverText(forge), ".inputs q r\n.outputs s\n.names q r n_3\n00 1\n.names n_3 s\n1 1\n.end\n");
     }
 
     // ---- few cells

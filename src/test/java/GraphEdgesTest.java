@@ -797,26 +797,6 @@ public final class GraphEdgesTest extends Checks {
         due("reduce()", done(text).reduce(), 200);
     }
 
-    private static String unlikeGates() {
-        StringBuilder text = new StringBuilder(EIGHT + ".outputs t0 t1 t2 t3 t4\n");
-        int bits = 31;
-        for (int t = 0; t < 5; t++) {
-            text.append(".names");
-            for (int k = 0; k < 5; k++) {
-                text.append(' ').append("abcdefgh".charAt((2 * t + k) % 8));
-            }
-            text.append(" t").append(t).append('\n');
-            for (int r = 0; r < (t == 4 ? 8 : 16); r++) {
-                bits = bits * 33 + 31 & 0xFFFF;
-                for (int k = 4; k < 9; k++) {
-                    text.append(bits >> k & 1);
-                }
-                text.append(" 1\n");
-            }
-        }
-        return text.append(".end").toString();
-    }
-
     private static void rewriteTooGreat() {
         Forge most = done(woven("a b c d e f", "Aa Z Y X", "a b c A;c e B;A e C;e B D;A f E;f D F;C F B G;C A E H;C H I;"
                 + "D I D J;G J G K;I E J L;H J M;I L N;J M K O;O M J P;L P Q;M L R;R L R S;M S T;Q N O U;S S O V;P P T W;"

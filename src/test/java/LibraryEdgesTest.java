@@ -1,3 +1,5 @@
+import java.util.Arrays;
+
 /** Promises 20 to 25 and section 4 of the terms: each sentence that names a boundary case has a test of its own. */
 public final class LibraryEdgesTest extends Checks {
     private static final String AND = ".inputs a b\n.outputs y\n.names a b y\n11 1\n.end";
@@ -500,6 +502,8 @@ public final class LibraryEdgesTest extends Checks {
         says("Maps the graph: how many instances", LibraryEdgesTest::instances);
         says("each output's literal (but 0, 1 and given ones), and what stands at an instance's pins (likewise)",
                 LibraryEdgesTest::whatIsMapped);
+        says("Maps the graph (another one)", LibraryEdgesTest::anotherGraph);
+        says("what stands at an instance's pins", LibraryEdgesTest::greatestGraph);
         says("NONE, and nothing is mapped, if one of them can't be made", LibraryEdgesTest::notMade);
         says("(Nothing is mapped any more behind read(), balance(), reduce(), rewrite() and library() ..)",
                 LibraryEdgesTest::dropped);
@@ -529,6 +533,83 @@ public final class LibraryEdgesTest extends Checks {
         due("given ones, 0 and 1 are none", mixed.mapped(0), 1);
         Forge unneeded = mappedBy(unneeded(ofGates(9)), NANDS);
         due("gates that no output needs are none", unneeded.mapped(0), 0);
+    }
+
+    private static void anotherGraph() {
+        Forge forge = mappedBy(".inputs a b c d\n.outputs y\n.names a b c d y\n1111 1\n.end", "cell and 1 1 0001\n.end");
+        due("time", forge.mapped(2), 3);
+        due("a sign", forge.mappedSign(8), 'a');
+        forge.balance();
+        due("map() of the balanced one", forge.map(), 3);
+        due("time", forge.mapped(2), 2);
+        written("it", mappedText(forge), ".inputs a b c d\n.outputs y\n.gate and c d n_5\n.gate and a b n_6\n"
+                + ".gate and n_5 n_6 n_7\n.names n_7 y\n1 1\n.end\n");
+        forge.cover(3);
+        due("map() behind a cover", forge.map(), 3);
+        isInstance(forge, 2, 14, 0, 2, 10, 12);
+    }
+
+    /** Of 200 gates and eight inputs the instances, from one to the next, give what the graph gives, at their times. */
+    private static void greatestGraph() {
+        Forge forge = mappedBy(unlikeGates(), "cell nand 3 2 1110\ncell inv 1 1 10\ncell and3 7 3 00000001\n.end");
+        int count = forge.mapped(0);
+        int[] tables = {forge.libraryCell(0, 3), forge.libraryCell(1, 3), forge.libraryCell(2, 3)};
+        int[][] instances = new int[count][6];
+        int area = 0;
+        for (int i = 0; i < count; i++) {
+            int cell = forge.instance(i, 1);
+            area += forge.libraryCell(cell, 0);
+            for (int what = 0; what < 3 + forge.libraryCell(cell, 2); what++) {
+                instances[i][what] = forge.instance(i, what);
+            }
+        }
+        due("areas together", forge.mapped(1), area);
+        int[] times = new int[2 * 209];
+        int[] outputs = new int[5];
+        for (int k = 0; k < 5; k++) {
+            outputs[k] = forge.output(k);
+        }
+        for (int in = 0; in < 256; in++) {
+            int[] values = valuesOf(instances, tables, in, times);
+            int want = 0;
+            for (int k = 0; k < 5; k++) {
+                want |= values[outputs[k]] << k;
+            }
+            due("value(" + in + ") and the instances", forge.value(in), want);
+        }
+        int greatest = 0;
+        for (int output : outputs) {
+            greatest = Math.max(greatest, times[output]);
+        }
+        due("the greatest time", forge.mapped(2), greatest);
+    }
+
+    /** An instance's pins may have literals that come behind it, so all are gone through until nothing is left. */
+    private static int[] valuesOf(int[][] instances, int[] tables, int in, int[] times) {
+        int[] values = new int[times.length];
+        Arrays.fill(values, NONE);
+        for (int k = 0; k < 8; k++) {
+            values[2 * (k + 1)] = in >> k & 1;
+        }
+        int[] pins = {2, 1, 3};
+        int[] delays = {2, 1, 3};
+        for (int left = instances.length; left > 0; left--) {
+            for (int[] instance : instances) {
+                int bit = 0;
+                int latest = 0;
+                for (int k = 0; k < pins[instance[1]] && bit >= 0; k++) {
+                    int value = values[instance[3 + k]];
+                    bit = value == NONE ? NONE : bit | value << k;
+                    latest = Math.max(latest, times[instance[3 + k]]);
+                }
+                if (bit >= 0 && values[instance[0]] == NONE) {
+                    values[instance[0]] = tables[instance[1]] >> bit & 1;
+                    times[instance[0]] = latest + delays[instance[1]];
+                    due("time of literal " + instance[0], instance[2], times[instance[0]]);
+                }
+            }
+        }
+        return values;
     }
 
     private static void notMade() {
