@@ -695,9 +695,17 @@ public final class CoverEdgesTest extends Checks {
         and.cover(5);
         written("the first input first", coverText(and),
                 ".inputs a b c d e\n.outputs y\n.names a b c d e n_9\n11110 1\n.names n_9 y\n1 1\n.end\n");
-        Forge nor = done(".inputs a b c d e\n.outputs y\n.names a b c d e y\n11111 0\n0---- 0\n-0--- 0\n.end");
+        Forge nor = done(".inputs a b c d e\n.outputs y\n.names a b c d e y\n00000 1\n.end");
         nor.cover(5);
-        written("rows from 0 on", coverText(nor), ".inputs a b c d e\n.outputs y\n.names a b c d e n_11\n"
+        written("the first bit of 32", coverText(nor),
+                ".inputs a b c d e\n.outputs y\n.names a b c d e n_9\n00000 1\n.names n_9 y\n1 1\n.end\n");
+        Forge last = done(".inputs a b c d e\n.outputs y\n.names a b c d e y\n11111 1\n.end");
+        last.cover(5);
+        written("the last bit of 32", coverText(last),
+                ".inputs a b c d e\n.outputs y\n.names a b c d e n_9\n11111 1\n.names n_9 y\n1 1\n.end\n");
+        Forge seven = done(".inputs a b c d e\n.outputs y\n.names a b c d e y\n11111 0\n0---- 0\n-0--- 0\n.end");
+        seven.cover(5);
+        written("rows from 0 on", coverText(seven), ".inputs a b c d e\n.outputs y\n.names a b c d e n_11\n"
                 + "11000 1\n11100 1\n11010 1\n11110 1\n11001 1\n11101 1\n11011 1\n.names n_11 y\n1 1\n.end\n");
     }
 

@@ -444,6 +444,13 @@ public final class GraphEdgesTest extends Checks {
         isGate(both, 5, 2, 4);
         isGate(both, 6, 6, 8);
         isGate(both, 7, 10, 12);
+        Forge low = done(".inputs a b c d e\n.outputs y t\n.names p q y\n11 1\n.names t c p\n11 1\n.names d e q\n11 1\n"
+                + ".names a b t\n11 1\n.end");
+        due("6, 12, 8, 10", low.balance(), 4);
+        isGate(low, 6, 2, 4);
+        isGate(low, 7, 6, 8);
+        isGate(low, 8, 10, 12);
+        isGate(low, 9, 14, 16);
     }
 
     private static void oppositeStays() {
@@ -486,6 +493,11 @@ public final class GraphEdgesTest extends Checks {
         Forge byOpposite = done(String.format(text.replace(".end", ".names t v\n0 1\n.end"), " v"));
         due("its opposite is an output", byOpposite.balance(), 3);
         isGate(byOpposite, 5, 2, 4);
+        Forge opposite = done(".inputs a b c d\n.outputs z\n.names y u z\n1- 1\n.names t c y\n01 1\n.names t d u\n11 1\n"
+                + ".names a b t\n11 1\n.end");
+        due("its opposite by one that is needed, itself by one that is not", opposite.balance(), 2);
+        isGate(opposite, 5, 2, 4);
+        isGate(opposite, 6, 6, 11);
     }
 
     private static void firstLeast() {
@@ -733,6 +745,10 @@ public final class GraphEdgesTest extends Checks {
         Forge zero = done(TWO + ".names a b a y\n110 1\n.end");
         due("0", zero.rewrite(), 1);
         due("y", zero.output(0), 0);
+        Forge alone = done(".inputs a b\n.outputs y t\n.names t a y\n10 1\n.names a b t\n11 1\n.end");
+        due("0, where one gate is freed", alone.rewrite(), 1);
+        due("y", alone.output(0), 0);
+        due("t", alone.output(1), 6);
         Forge below = done(TWO + ".names a b a y\n11- 0\n110 0\n.end");
         due("a gate that is 0 below another", below.rewrite(), 1);
         due("y", below.output(0), 7);

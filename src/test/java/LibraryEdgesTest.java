@@ -58,6 +58,12 @@ public final class LibraryEdgesTest extends Checks {
         Forge twelve = isLibrary(manyCells(12) + ".end");
         due("the twelfth", twelve.libraryCell(11, 0), 11);
         thrown("no thirteenth", PLACE, () -> twelve.libraryCell(12, 0));
+        Forge pins = done(AND3);
+        for (int n = 0; n < 4; n++) {
+            kit(pins, manyCells(11).replace("0110", "01101000") + "cell and 1 1 00000001\n.end");
+            due("map() with twelve cells of three pins", pins.map(), 1);
+            isInstance(pins, 0, 10, 11, 1, 2, 4, 6);
+        }
         noLibrary(manyCells(13) + ".end", 1, 12);
         noLibrary(manyCells(14) + ".end", 1, 12);
         noLibrary(manyCells(12) + "\n# x\n" + "cell x 1 1 10\n.end", 1, 14);

@@ -42,6 +42,8 @@ public final class RefusalTest extends Checks {
         says("library() changes the library, the mapping and the line alone", RefusalTest::libraryAlone);
         says("balance(), reduce() and rewrite() leave the text, the line and the library", RefusalTest::graphAlone);
         says("what is asked changes nothing", RefusalTest::asked);
+        says("an object that was used before answers as a new one", RefusalTest::usedBefore);
+        says("an object answers as a new one behind faults and what was too great", RefusalTest::refusedBefore);
         endTests();
     }
 
@@ -275,6 +277,60 @@ public final class RefusalTest extends Checks {
                 askQuietly(copy, call, a);
             }
             same("behind " + call + "()", allOf(copy), before);
+        }
+    }
+
+    private static final String[] CHANGES = {"balance", "rewrite", "reduce", "cover", "coverFew", "map"};
+
+    /** The same on an object that has read, remade, covered and mapped other graphs, and on a new one. */
+    private static void usedBefore() {
+        String[] finals = {XOR, ".inputs a b c d e f g h\n.outputs h y z\n.names f g y\n11 1\n.names e d z\n00 0\n.end"};
+        for (String text : finals) {
+            for (String change : CHANGES) {
+                Forge used = isLibrary("cell nand 1 1 1110\ncell inv 1 1 10\ncell maj 1 1 00010111\n.end");
+                String other = ".inputs a b c\n.outputs y z\n.names a b c y\n111 1\n10- 1\n011 1\n.names y a b z\n011 1\n.end";
+                useTwice(used, other, change);
+                Forge fresh = new Forge();
+                for (Forge forge : new Forge[] {used, fresh}) {
+                    kit(forge, NANDS);
+                    anew(forge, text);
+                    due("read()", forge.read(), 0);
+                }
+                same("read() behind " + change + "()", allOf(used), allOf(fresh));
+                due(change + "()", used.call(change, 4, 0), fresh.call(change, 4, 0));
+                same(change + "() behind " + change + "()", allOf(used), allOf(fresh));
+            }
+        }
+    }
+
+    private static void useTwice(Forge forge, String text, String change) {
+        for (int n = 0; n < 2; n++) {
+            anew(forge, text);
+            due("read()", forge.read(), 0);
+            askQuietly(forge, "value", 5);
+            forge.call(change, 4, 0);
+            forge.call(change, 4, 0);
+            forge.cover(3);
+            askQuietly(forge, "sign", 3);
+        }
+    }
+
+    private static void refusedBefore() {
+        String[] bad = {".inputs a b c\n.outputs c\n.names u v\n.names v u\n.end", ".inputs a b c\n.outputs q\n.end",
+            ".inputs a\n.outputs a\n.names y\n" + "1\n".repeat(17), "cell a 1 1 10\ncell b 1 1 01\ncell b 1 1 10\n.end",
+            ".inputs a\n.outputs a\n.names a\n", ofGates(201)};
+        for (String text : bad) {
+            Forge used = with(text);
+            askQuietly(used, "read", 0);
+            askQuietly(used, "library", 0);
+            askQuietly(used, "read", 0);
+            Forge fresh = new Forge();
+            for (Forge forge : new Forge[] {used, fresh}) {
+                kit(forge, NANDS);
+                anew(forge, XOR);
+                due("read()", forge.read(), 0);
+            }
+            same("behind <<" + text + ">>", allOf(used), allOf(fresh));
         }
     }
 
