@@ -253,6 +253,8 @@ public final class LibraryEdgesTest extends Checks {
         due("the cover stays", covered.depth(), 1);
         thrown("nothing is mapped any more", STATE, () -> covered.mapped(0));
         due("map()", covered.map(), 1);
+        due("its area", covered.mapped(1), 1);
+        due("its time", covered.mapped(2), 1);
     }
 
     private static void libraryStays() {
@@ -317,6 +319,7 @@ public final class LibraryEdgesTest extends Checks {
         says("An input's own literal is GIVEN, at TIME 0.", LibraryEdgesTest::given);
         says("Other literals (not 0 and 1) may be MADE", LibraryEdgesTest::notFixedOnes);
         says("the nodes at its pins are those of a cut of the gate for K 3 that isn't spare", LibraryEdgesTest::cutOfThree);
+        says("the nodes at its pins are those of a cut (all tables)", LibraryEdgesTest::allTables);
         says("each once (itself or its opposite)", LibraryEdgesTest::eachOnce);
         says("and the cell gives the literal, whatever the nodes of the cut are", LibraryEdgesTest::whatever);
         says("A TURN is a match of any literal: a cell with the table 10", LibraryEdgesTest::turns);
@@ -353,6 +356,22 @@ public final class LibraryEdgesTest extends Checks {
         Forge spare = done(".inputs a b\n.outputs y\n.names a b a y\n111 1\n.end");
         due("a cut that is spare", kit(spare, "cell and 1 1 00000001\n.end").map(), NONE);
         due("one that isn't", kit(spare, "cell and 1 1 0001\n.end").map(), 1);
+    }
+
+    /** An AND of two nodes is made by no cell of one or three pins, and, without an inverter, by one of two alone. */
+    private static void allTables() {
+        for (int width = 2; width <= 8; width *= 2) {
+            for (int table = 0; table < 1 << width; table++) {
+                StringBuilder signs = new StringBuilder();
+                for (int i = 0; i < width; i++) {
+                    signs.append(table >> i & 1);
+                }
+                String cells = "cell x 1 1 " + signs + "\n.end";
+                due("of two with " + cells, kit(done(AND), cells).map(), width == 4 && table == 8 ? 1 : NONE);
+                int instances = width == 4 && table == 8 ? 2 : width == 8 && table == 128 ? 1 : NONE;
+                due("of three with " + cells, kit(done(AND3), cells).map(), instances);
+            }
+        }
     }
 
     private static void eachOnce() {
