@@ -2,7 +2,7 @@ import java.util.ArrayList;
 import java.util.List;
 import java.util.function.IntSupplier;
 
-/** What the tests have in common: they tell each answer that is not as due, and end with exit code 1 if there is one. */
+/** What the tests have in common: they tell each answer that is not as due, and end with exit code 1 then. */
 class Checks {
     static final Class<?> STATE = IllegalStateException.class;
     static final Class<?> ARGUMENT = IllegalArgumentException.class;
@@ -201,7 +201,7 @@ class Checks {
     private static String textOf(Forge forge, String call) {
         StringBuilder text = new StringBuilder();
         int sign = forge.call(call, 0, 0);
-        for (int k = 1; sign != NONE; k++) {
+        for (int k = 1; sign != NONE && k < MOST_SIGNS; k++) {
             text.append((char) sign);
             sign = forge.call(call, k, 0);
         }
@@ -210,7 +210,7 @@ class Checks {
 
     // ---- texts of many gates and cuts
 
-    /** A table that gives x or y or y or ..: each row behind the first one is a gate more, the one ahead and not y. */
+    /** A table that gives x or y or y or ..: each row behind the first one is a gate of the one ahead and not y. */
     private static String chainTable(String x, String y, String name, int gates) {
         return ".names " + x + " " + y + " " + name + "\n1- 1\n" + "-1 1\n".repeat(gates);
     }
@@ -242,8 +242,8 @@ class Checks {
      */
     static String ofCutsOfFour(int cuts) {
         int[] parts = parts(cuts);
-        return ".inputs a b c d\n.outputs y\n" + chain("a", "b", "p", parts[0] - 1) + chain("c", "d", "q", parts[1] - 1)
-                + ".names p q y\n00 1\n.end";
+        return ".inputs a b c d\n.outputs y\n" + chain("a", "b", "p", parts[0] - 1)
+                + chain("c", "d", "q", parts[1] - 1) + ".names p q y\n00 1\n.end";
     }
 
     /** As for K 4, but with e beside p or its cuts, or one gate for both: so p has one cut less. */
@@ -253,7 +253,7 @@ class Checks {
                 + chain("c", "d", "q", parts[1] - 1) + ".names p e q y\n010 1\n.end";
     }
 
-    /** A chain p, and one above it that has p in each gate: for K 3 a cut is one of these, and p or one of its cuts. */
+    /** A chain p, and one above it with p in each gate: for K 3 a cut is one of these, and p or one of its cuts. */
     static String ofCutsOfThree(int cuts) {
         int[] parts = parts(cuts);
         return ".inputs a b c\n.outputs y\n" + chain("a", "b", "p", parts[1] - 1) + chain("c", "p", "y", parts[0])
@@ -290,7 +290,8 @@ class Checks {
         StringBuilder text = new StringBuilder(".inputs " + inputs + "\n.outputs " + outputs + "\n");
         for (String table : tables.split(";")) {
             boolean isOfTwo = table.split(" ").length == 3;
-            text.append(".names ").append(table).append('\n').append(isOfTwo ? "10 1\n01 1\n" : "110 1\n1-1 1\n011 1\n");
+            text.append(".names ").append(table).append('\n');
+            text.append(isOfTwo ? "10 1\n01 1\n" : "110 1\n1-1 1\n011 1\n");
         }
         return text.append(".end").toString();
     }
@@ -302,6 +303,9 @@ class Checks {
 
     // ---- all that can be asked
 
+    // A class that never tells an end is wrong, but the test of it has to end.
+    private static final int MOST_ASKED = 600;
+    private static final int MOST_SIGNS = 20000;
     private static final String[] CHANGES = {"read", "balance", "reduce", "rewrite", "library", "map"};
 
     /** All answers that the object gives. */
@@ -377,17 +381,17 @@ class Checks {
 
     private static void askAll(List<String> told, Forge forge, String name, int behind) {
         boolean isThere = true;
-        for (int a = 0; a < behind && isThere; a++) {
+        for (int a = 0; a < behind && isThere && a < MOST_ASKED; a++) {
             isThere = ask(told, forge, name, a, 0);
         }
     }
 
     private static void askTable(List<String> told, Forge forge, String name, int first, int behind) {
         boolean isThere = true;
-        for (int a = first; isThere; a++) {
+        for (int a = first; isThere && a < MOST_ASKED; a++) {
             isThere = ask(told, forge, name, a, 0);
             boolean hasMore = isThere;
-            for (int b = 1; b < behind && hasMore; b++) {
+            for (int b = 1; b < behind && hasMore && b < MOST_ASKED; b++) {
                 hasMore = ask(told, forge, name, a, b);
             }
         }

@@ -37,9 +37,12 @@ public final class CoverEdgesTest extends Checks {
     /** The output of an AND of all inputs, of their unlikeness, of the last one, of none. */
     private static Forge eight() {
         return done(EIGHT + ".outputs and xor h zero one nor\n.names p q and\n11 1\n.names a b c d p\n1111 1\n"
-                + ".names e f g h q\n1111 1\n.names r s xor\n10 1\n01 1\n.names t u r\n10 1\n01 1\n.names v w s\n10 1\n01 1\n"
-                + ".names a b t\n10 1\n01 1\n.names c d u\n10 1\n01 1\n.names e f v\n10 1\n01 1\n.names g h w\n10 1\n01 1\n"
-                + ".names zero\n.names one\n1\n.names i j nor\n11 1\n.names a b c d i\n0000 1\n.names e f g h j\n0000 1\n.end");
+                + ".names e f g h q\n1111 1\n.names r s xor\n10 1\n01 1\n.names t u r\n10 1\n01 1\n.names v w s\n"
+                + "10 1\n01 1\n"
+                + ".names a b t\n10 1\n01 1\n.names c d u\n10 1\n01 1\n.names e f v\n10 1\n01 1\n.names g h w\n"
+                + "10 1\n01 1\n"
+                + ".names zero\n.names one\n1\n.names i j nor\n11 1\n.names a b c d i\n0000 1\n.names e f g h j\n"
+                + "0000 1\n.end");
     }
 
     private static void asked() {
@@ -67,7 +70,8 @@ public final class CoverEdgesTest extends Checks {
     }
 
     private static void alikeOnce() {
-        Forge forge = done(".inputs a b c\n.outputs y z\n.names a b c y\n1-1 1\n-11 1\n.names a b c z\n11- 1\n0-1 1\n.end");
+        Forge forge = done(".inputs a b c\n.outputs y z\n.names a b c y\n1-1 1\n-11 1\n.names a b c z\n11- 1\n"
+                + "0-1 1\n.end");
         due("a, b, and c once", forge.diagram(0, 0), 3);
         due("a, b, c", forge.diagram(1, 0), 3);
         due("b and its opposite are unlike", done(XOR).diagram(0, 0), 3);
@@ -141,7 +145,8 @@ public final class CoverEdgesTest extends Checks {
         due("the last input and 0", forge.differ(2, 3), 128);
         due("the NOR and 0", forge.differ(5, 3), 0);
         due("the unlikeness and 0", forge.differ(1, 3), 1);
-        Forge alike = done(".inputs a b\n.outputs y z n\n.names a b y\n11 1\n.names a b z\n0- 0\n-0 0\n.names y n\n0 1\n.end");
+        Forge alike = done(".inputs a b\n.outputs y z n\n.names a b y\n11 1\n.names a b z\n0- 0\n-0 0\n"
+                + ".names y n\n0 1\n.end");
         due("other gates, alike", alike.differ(0, 1), NONE);
         due("opposites", alike.differ(0, 2), 0);
         due("of one input", done(".inputs a\n.outputs a y\n.names y\n.end").differ(0, 1), 1);
@@ -246,7 +251,8 @@ public final class CoverEdgesTest extends Checks {
         says("A cut's DEPTH is one more than the greatest depth of its nodes; of inputs 0", CoverEdgesTest::depths);
         says("of a gate the least of its cuts'", CoverEdgesTest::leastDepth);
         says("of those of this depth that aren't spare, one of the fewest nodes", CoverEdgesTest::fewestNodes);
-        says("of several the one whose least node is least, then its next one, and so on", CoverEdgesTest::leastNodes);
+        says("of several the one whose least node is least, then its next one, and so on",
+                CoverEdgesTest::leastNodes);
         says("(Outputs that are 0 or inputs have the depth 0.)", CoverEdgesTest::wires);
     }
 
@@ -261,7 +267,8 @@ public final class CoverEdgesTest extends Checks {
             }
             Forge forge = done(text.toString());
             for (int most = 2; most <= 5; most++) {
-                due("one cell for " + width + " inputs, K " + most, forge.cover(most) == 1 ? 1 : 0, width <= most ? 1 : 0);
+                due("one cell for " + width + " inputs, K " + most, forge.cover(most) == 1 ? 1 : 0,
+                        width <= most ? 1 : 0);
             }
         }
     }
@@ -285,7 +292,8 @@ public final class CoverEdgesTest extends Checks {
     }
 
     private static void depths() {
-        Forge forge = done(".inputs a b c d\n.outputs y q\n.names p q y\n11 1\n.names a b c p\n111 1\n.names c d q\n11 1\n.end");
+        Forge forge = done(".inputs a b c d\n.outputs y q\n.names p q y\n11 1\n.names a b c p\n111 1\n"
+                + ".names c d q\n11 1\n.end");
         due("cover(2)", forge.cover(2), 4);
         int[] want = {1, 2, 1, 3};
         for (int c = 0; c < 4; c++) {
@@ -342,7 +350,8 @@ public final class CoverEdgesTest extends Checks {
     // ---- cells
 
     private static void cells() {
-        says("of each output's gate, and then of each gate in the best cut of a cell's gate", CoverEdgesTest::whichCells);
+        says("of each output's gate, and then of each gate in the best cut of a cell's gate",
+                CoverEdgesTest::whichCells);
         says("the gate, with that cut as inputs, from the least on", CoverEdgesTest::inputsFromLeast);
         says("(the first input the lowest bit)", CoverEdgesTest::lowestBit);
         says("where one of its inputs can't be so together, too", CoverEdgesTest::impossible);
@@ -359,7 +368,8 @@ public final class CoverEdgesTest extends Checks {
         isCell(inside, 1, 5, 128, 1, 1, 2, 3);
         Forge opposite = done(".inputs a b\n.outputs y z\n.names a b y\n11 1\n.names a b z\n11 0\n.end");
         due("a gate and its opposite", opposite.cover(2), 1);
-        Forge unneeded = done(".inputs a b c\n.outputs y\n.names t u y\n-1 1\n.names a c u\n11 1\n.names a b t\n11 1\n.end");
+        Forge unneeded = done(".inputs a b c\n.outputs y\n.names t u y\n-1 1\n.names a c u\n11 1\n.names a b t\n"
+                + "11 1\n.end");
         due("a gate that no output needs has none", unneeded.cover(2), 1);
         isCell(unneeded, 0, 5, 8, 1, 1, 3);
     }
@@ -383,10 +393,12 @@ public final class CoverEdgesTest extends Checks {
     }
 
     private static void impossible() {
-        Forge forge = done(".inputs a b c\n.outputs y p q\n.names a b p\n11 1\n.names a c q\n01 1\n.names p q y\n11 1\n.end");
+        Forge forge = done(".inputs a b c\n.outputs y p q\n.names a b p\n11 1\n.names a c q\n01 1\n.names p q y\n"
+                + "11 1\n.end");
         forge.cover(2);
         isCell(forge, 2, 6, 8, 2, 4, 5);
-        Forge few = done(".inputs a b c\n.outputs y p q\n.names a b p\n11 1\n.names a c q\n01 1\n.names p q y\n11 1\n.end");
+        Forge few = done(".inputs a b c\n.outputs y p q\n.names a b p\n11 1\n.names a c q\n01 1\n.names p q y\n"
+                + "11 1\n.end");
         few.coverFew(2);
         isCell(few, 2, 6, 8, 2, 4, 5);
     }
@@ -407,7 +419,8 @@ public final class CoverEdgesTest extends Checks {
         Forge zero = done(".inputs a b\n.outputs y\n.names a b a y\n110 1\n.end");
         zero.cover(2);
         isCell(zero, 0, 4, 0, 1, 1, 2);
-        Forge one = done(".inputs a b c\n.outputs z\n.names y t z\n01 1\n.names a b a y\n110 1\n.names a c a t\n110 0\n.end");
+        Forge one = done(".inputs a b c\n.outputs z\n.names y t z\n01 1\n.names a b a y\n110 1\n.names a c a t\n"
+                + "110 0\n.end");
         one.cover(3);
         due("all eight bits", one.cell(0, 2), 255);
     }
@@ -500,7 +513,8 @@ public final class CoverEdgesTest extends Checks {
     // ---- few cells
 
     private static void fewCells() {
-        says("each output's gate is WANTED with the greatest depth of all outputs as its TIME", CoverEdgesTest::greatestTime);
+        says("each output's gate is WANTED with the greatest depth of all outputs as its TIME",
+                CoverEdgesTest::greatestTime);
         says("of its cuts that aren't spare and have a depth of at most its time", CoverEdgesTest::atMostTime);
         says("the one with the fewest gates in it that aren't wanted yet", CoverEdgesTest::fewestUnwanted);
         says("of several the one of the fewest nodes", CoverEdgesTest::fewNodes);
@@ -559,7 +573,8 @@ public final class CoverEdgesTest extends Checks {
     }
 
     private static void oneLess() {
-        Forge forge = done(".inputs a b c d\n.outputs p y z\n.names a b p\n11 1\n.names p c y\n11 1\n.names y d z\n11 1\n.end");
+        Forge forge = done(".inputs a b c d\n.outputs p y z\n.names a b p\n11 1\n.names p c y\n11 1\n"
+                + ".names y d z\n11 1\n.end");
         due("coverFew(3)", forge.coverFew(3), 3);
         isCell(forge, 0, 5, 8, 1, 1, 2);
         isCell(forge, 1, 6, 128, 1, 1, 2, 3);
@@ -654,9 +669,10 @@ public final class CoverEdgesTest extends Checks {
         says("Sign k of what is written; NONE behind its end.", CoverEdgesTest::signs);
         says("IndexOutOfBoundsException if k is below 0. (sign)", CoverEdgesTest::signBelowZero);
         says("a row for each bit of its table that is 1, from 0 on", CoverEdgesTest::rows);
-        says("of each output: .names, the name of its node and its own, and the row 1 1, or 0 1 if its literal is the opposite",
+        says("the name of its node and its own, and the row 1 1, or 0 1 if its literal is the opposite",
                 CoverEdgesTest::outputs);
-        says("if the node is 0: .names and its own name, and the row 1 if it is the opposite", CoverEdgesTest::fixedOutputs);
+        says("if the node is 0: .names and its own name, and the row 1 if it is the opposite",
+                CoverEdgesTest::fixedOutputs);
         says("of each cell, by numbers of gates", CoverEdgesTest::order);
         says("An output that is an input's .. name, too, is written all the same", CoverEdgesTest::outputIsInput);
         says("so is a gate's name that is one of the text's", CoverEdgesTest::namesOfGates);
@@ -713,7 +729,8 @@ public final class CoverEdgesTest extends Checks {
         Forge forge = done(".inputs a b\n.outputs w x y z\n.names a w\n1 1\n.names b x\n0 1\n.names a b y\n11 1\n"
                 + ".names a b z\n11 0\n.end");
         forge.cover(2);
-        written("inputs and gates", coverText(forge), ".inputs a b\n.outputs w x y z\n.names a b n_3\n11 1\n.names a w\n1 1\n"
+        written("inputs and gates", coverText(forge), ".inputs a b\n.outputs w x y z\n.names a b n_3\n11 1\n"
+                + ".names a w\n1 1\n"
                 + ".names b x\n0 1\n.names n_3 y\n1 1\n.names n_3 z\n0 1\n.end\n");
     }
 
@@ -727,10 +744,12 @@ public final class CoverEdgesTest extends Checks {
         Forge forge = done(PAIRS);
         forge.cover(2);
         String head = ".inputs a b c d\n.outputs y\n";
-        written("cover(2)", coverText(forge), head + ".names a b n_5\n11 1\n.names c d n_6\n11 1\n.names n_5 n_6 n_7\n11 1\n"
+        written("cover(2)", coverText(forge), head + ".names a b n_5\n11 1\n.names c d n_6\n11 1\n"
+                + ".names n_5 n_6 n_7\n11 1\n"
                 + ".names n_7 y\n1 1\n.end\n");
         forge.coverFew(3);
-        written("coverFew(3) in its place", coverText(forge), head + ".names c d n_6\n11 1\n.names a b n_6 n_7\n111 1\n"
+        written("coverFew(3) in its place", coverText(forge), head + ".names c d n_6\n11 1\n.names a b n_6 n_7\n"
+                + "111 1\n"
                 + ".names n_7 y\n1 1\n.end\n");
         thrown("cover(1)", ARGUMENT, () -> forge.cover(1));
         written("it stays", coverText(forge), head + ".names c d n_6\n11 1\n.names a b n_6 n_7\n111 1\n"
@@ -740,7 +759,8 @@ public final class CoverEdgesTest extends Checks {
     private static void outputIsInput() {
         Forge forge = done(".inputs abcdefgh B_2\n.outputs B_2 abcdefgh\n.end");
         forge.cover(2);
-        written("names of inputs", coverText(forge), ".inputs abcdefgh B_2\n.outputs B_2 abcdefgh\n.names B_2 B_2\n1 1\n"
+        written("names of inputs", coverText(forge), ".inputs abcdefgh B_2\n.outputs B_2 abcdefgh\n"
+                + ".names B_2 B_2\n1 1\n"
                 + ".names abcdefgh abcdefgh\n1 1\n.end\n");
     }
 

@@ -77,7 +77,8 @@ public final class FuzzTest {
             seen[got == -1 ? 9 : 10]++;
         }
         seen[11] += step.equals("rewrite") && got != Integer.MIN_VALUE ? 1 : 0;
-        seen[12] += step.startsWith("cover") && oracle.hasGraph() && got == Integer.MIN_VALUE && most >= 2 && most <= 5 ? 1 : 0;
+        boolean isRefused = step.startsWith("cover") && got == Integer.MIN_VALUE && oracle.hasGraph();
+        seen[12] += isRefused && most >= 2 && most <= 5 ? 1 : 0;
     }
 
     private record Question(String name, int a, int b) {
@@ -238,7 +239,8 @@ public final class FuzzTest {
             body.append(' ').append(isBad ? "t" + random.nextInt(9) : random.nextBoolean() ? all.get(late) : pick(all));
         }
         body.append(' ').append(random.nextInt(300) == 0 ? pick(all) : name).append('\n');
-        int rows = size == 3 ? 1 + random.nextInt(seed % 2 == 0 ? 4 : 7) : random.nextInt(random.nextInt(6) == 0 ? 9 : 4);
+        int rows = size == 3 ? 1 + random.nextInt(seed % 2 == 0 ? 4 : 7)
+                : random.nextInt(random.nextInt(6) == 0 ? 9 : 4);
         char ending = random.nextInt(3) == 0 ? '0' : '1';
         for (int r = 0; r < rows; r++) {
             for (int k = 0; k < width; k++) {

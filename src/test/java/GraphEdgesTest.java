@@ -1,4 +1,4 @@
-/** Promises 4 and 6 to 12 and section 2 of the terms: each sentence that names a boundary case has a test of its own. */
+/** Promises 4 and 6 to 12, section 2 of the terms: each sentence that names a boundary case has its own test. */
 public final class GraphEdgesTest extends Checks {
     private static final String TWO = ".inputs a b\n.outputs y\n";
     private static final String THREE = ".inputs a b c\n.outputs y\n";
@@ -86,8 +86,8 @@ public final class GraphEdgesTest extends Checks {
     }
 
     private static void andOfZero() {
-        String[] tables = {".names z a y\n11 1\n", ".names a z y\n11 1\n", ".names z z y\n11 1\n", ".names z z y\n10 1\n",
-            ".names a b z y\n111 1\n"};
+        String[] tables = {".names z a y\n11 1\n", ".names a z y\n11 1\n", ".names z z y\n11 1\n",
+            ".names z z y\n10 1\n", ".names a b z y\n111 1\n"};
         int[] gates = {0, 0, 0, 0, 1};
         for (int k = 0; k < tables.length; k++) {
             Forge forge = done(TWO + tables[k] + ".names z\n.end");
@@ -178,7 +178,8 @@ public final class GraphEdgesTest extends Checks {
         isGate(forge, 4, 2, 6);
         isGate(forge, 5, 2, 4);
         isGate(forge, 6, 8, 10);
-        Forge deep = done(THREE + ".names a t y\n11 1\n.names v u t\n11 1\n.names b c v\n11 1\n.names b c u\n00 1\n.end");
+        Forge deep = done(THREE + ".names a t y\n11 1\n.names v u t\n11 1\n.names b c v\n11 1\n.names b c u\n"
+                + "00 1\n.end");
         isGate(deep, 4, 4, 6);
         isGate(deep, 5, 5, 7);
         isGate(deep, 6, 8, 10);
@@ -266,7 +267,8 @@ public final class GraphEdgesTest extends Checks {
     }
 
     private static void levelOfGates() {
-        Forge forge = done(".inputs a b c d\n.outputs y\n.names p q y\n11 1\n.names a b c p\n111 1\n.names c d q\n11 1\n.end");
+        Forge forge = done(".inputs a b c d\n.outputs y\n.names p q y\n11 1\n.names a b c p\n111 1\n"
+                + ".names c d q\n11 1\n.end");
         int[] want = {1, 2, 1, 3};
         for (int k = 0; k < 4; k++) {
             due("level of gate " + (5 + k), forge.gate(5 + k, 2), want[k]);
@@ -289,7 +291,8 @@ public final class GraphEdgesTest extends Checks {
         says("IllegalArgumentException for another what. (gate)", GraphEdgesTest::otherOfGate);
         says("IndexOutOfBoundsException if there is none such. (output)", GraphEdgesTest::noSuchOutput);
         says("What all outputs are for inputs (bit k input k): bit k output k.", GraphEdgesTest::bits);
-        says("IllegalArgumentException if inputs is below 0, or has bits that no input has.", GraphEdgesTest::badInputs);
+        says("IllegalArgumentException if inputs is below 0, or has bits that no input has.",
+                GraphEdgesTest::badInputs);
     }
 
     private static void howMany() {
@@ -383,11 +386,13 @@ public final class GraphEdgesTest extends Checks {
     private static void balancing() {
         says("Balances: how many gates there are then; no cover.", () -> dropsCover("balance"));
         says("going through the gates that an output needs", GraphEdgesTest::balanceNeeded);
-        says("its LEAVES are the literals of its two, in this order .. in its place, and so on", GraphEdgesTest::leaves);
+        says("its LEAVES are the literals of its two, in this order .. in its place, and so on",
+                GraphEdgesTest::leaves);
         says("one that is a gate's itself (not the opposite)", GraphEdgesTest::oppositeStays);
         says("used, itself or its opposite, only once in all", GraphEdgesTest::usedTwice);
         says("(by gates that are needed, or outputs)", GraphEdgesTest::usedByOutput);
-        says("the first one of the least new level, and the first one of the least of the others", GraphEdgesTest::firstLeast);
+        says("the first one of the least new level, and the first one of the least of the others",
+                GraphEdgesTest::firstLeast);
         says("the AND of both .. comes at its end", GraphEdgesTest::atItsEnd);
         says("as long as it has two or more", GraphEdgesTest::foldedLeaves);
         says("The outputs' literals are the new ones. (balance)", () -> keepsWires("balance"));
@@ -439,12 +444,14 @@ public final class GraphEdgesTest extends Checks {
         isGate(forge, 9, 14, 16);
         due("y", forge.output(0), 18);
         due("level", forge.graph(3), 3);
-        Forge both = done(".inputs a b c d\n.outputs y\n.names p q y\n11 1\n.names a b p\n11 1\n.names c d q\n11 1\n.end");
+        Forge both = done(".inputs a b c d\n.outputs y\n.names p q y\n11 1\n.names a b p\n11 1\n.names c d q\n"
+                + "11 1\n.end");
         due("balance()", both.balance(), 3);
         isGate(both, 5, 2, 4);
         isGate(both, 6, 6, 8);
         isGate(both, 7, 10, 12);
-        Forge low = done(".inputs a b c d e\n.outputs y t\n.names p q y\n11 1\n.names t c p\n11 1\n.names d e q\n11 1\n"
+        Forge low = done(".inputs a b c d e\n.outputs y t\n.names p q y\n11 1\n.names t c p\n11 1\n.names d e q\n"
+                + "11 1\n"
                 + ".names a b t\n11 1\n.end");
         due("6, 12, 8, 10", low.balance(), 4);
         isGate(low, 6, 2, 4);
@@ -478,7 +485,8 @@ public final class GraphEdgesTest extends Checks {
     }
 
     private static void usedByOutput() {
-        String text = ".inputs a b c d\n.outputs y%s\n.names u t c d y\n-111 1\n.names t a u\n01 1\n.names a b t\n11 1\n.end";
+        String text = ".inputs a b c d\n.outputs y%s\n.names u t c d y\n-111 1\n.names t a u\n01 1\n"
+                + ".names a b t\n11 1\n.end";
         Forge once = done(String.format(text, ""));
         due("used by a gate that is not needed, too", once.balance(), 3);
         isGate(once, 5, 6, 8);
@@ -493,7 +501,8 @@ public final class GraphEdgesTest extends Checks {
         Forge byOpposite = done(String.format(text.replace(".end", ".names t v\n0 1\n.end"), " v"));
         due("its opposite is an output", byOpposite.balance(), 3);
         isGate(byOpposite, 5, 2, 4);
-        Forge opposite = done(".inputs a b c d\n.outputs z\n.names y u z\n1- 1\n.names t c y\n01 1\n.names t d u\n11 1\n"
+        Forge opposite = done(".inputs a b c d\n.outputs z\n.names y u z\n1- 1\n.names t c y\n01 1\n"
+                + ".names t d u\n11 1\n"
                 + ".names a b t\n11 1\n.end");
         due("its opposite by one that is needed, itself by one that is not", opposite.balance(), 2);
         isGate(opposite, 5, 2, 4);
@@ -535,7 +544,8 @@ public final class GraphEdgesTest extends Checks {
     private static void reducing() {
         says("Reduces: how many gates there are then; no cover.", () -> dropsCover("reduce"));
         says("through the gates that an output needs in the order of their numbers", GraphEdgesTest::reduceNeeded);
-        says("if a node that has a place already (0 ..) has the same function of the inputs", GraphEdgesTest::likeZero);
+        says("if a node that has a place already (0 ..) has the same function of the inputs",
+                GraphEdgesTest::likeZero);
         says("(.. the inputs ..)", GraphEdgesTest::likeInput);
         says("(.. needed gates below)", GraphEdgesTest::likeGate);
         says("or the opposite one", GraphEdgesTest::likeOpposite);
@@ -559,7 +569,8 @@ public final class GraphEdgesTest extends Checks {
         due("reduce()", forge.reduce(), 1);
         due("y is 0", forge.output(0), 0);
         due("reduce() again", forge.reduce(), 0);
-        Forge one = done(".inputs a b c\n.outputs z\n.names y t z\n01 1\n.names a b a y\n110 1\n.names a c a t\n110 0\n.end");
+        Forge one = done(".inputs a b c\n.outputs z\n.names y t z\n01 1\n.names a b a y\n110 1\n.names a c a t\n"
+                + "110 0\n.end");
         due("reduce()", one.reduce(), 2);
         due("z is 1", one.output(0), 1);
     }
@@ -611,7 +622,8 @@ public final class GraphEdgesTest extends Checks {
         gates = late.graph(2);
         due("unlike for the last inputs alone", late.reduce(), gates);
         due("which are 255", late.differ(0, 1), 255);
-        Forge first = done(EIGHT + ".outputs y\n.names p q y\n11 1\n.names a b c d p\n0000 1\n.names e f g h q\n0000 1\n.end");
+        Forge first = done(EIGHT + ".outputs y\n.names p q y\n11 1\n.names a b c d p\n0000 1\n.names e f g h q\n"
+                + "0000 1\n.end");
         due("1 for the first inputs alone", first.reduce(), 7);
     }
 
@@ -637,8 +649,10 @@ public final class GraphEdgesTest extends Checks {
         says("FREED are the gate, and those between that no output is", GraphEdgesTest::freedButOutputs);
         says("(nor the opposite of)", GraphEdgesTest::freedButOpposites);
         says("that no gate uses that an output needs, but gates between", GraphEdgesTest::freedButUsed);
-        says("the products of some of the cut's nodes and opposites (.. or none: the product 1)", GraphEdgesTest::productOne);
-        says("the least one, that is 1 in the table, and in which no product of the sum is 1", GraphEdgesTest::leastBit);
+        says("the products of some of the cut's nodes and opposites (.. or none: the product 1)",
+                GraphEdgesTest::productOne);
+        says("the least one, that is 1 in the table, and in which no product of the sum is 1",
+                GraphEdgesTest::leastBit);
         says("the prime that is 1 there with the fewest nodes", GraphEdgesTest::fewestNodes);
         says("of several that with the least number", GraphEdgesTest::leastNumber);
         says("0 for the table 0 or 1", GraphEdgesTest::fixedTables);
@@ -673,13 +687,15 @@ public final class GraphEdgesTest extends Checks {
     }
 
     private static void freedButOutputs() {
-        Forge forge = done(".inputs a b c\n.outputs y p\n.names p q y\n11 1\n.names a b p\n11 1\n.names a c q\n11 1\n.end");
+        Forge forge = done(".inputs a b c\n.outputs y p\n.names p q y\n11 1\n.names a b p\n11 1\n.names a c q\n"
+                + "11 1\n.end");
         due("p is an output", forge.rewrite(), 3);
         isGate(forge, 6, 8, 10);
     }
 
     private static void freedButOpposites() {
-        Forge forge = done(".inputs a b c\n.outputs y p\n.names p q y\n01 1\n.names a b p\n11 0\n.names a c q\n11 1\n.end");
+        Forge forge = done(".inputs a b c\n.outputs y p\n.names p q y\n01 1\n.names a b p\n11 0\n.names a c q\n"
+                + "11 1\n.end");
         due("not p is an output", forge.rewrite(), 3);
         isGate(forge, 6, 8, 10);
         due("p", forge.output(1), 9);
@@ -701,7 +717,8 @@ public final class GraphEdgesTest extends Checks {
     }
 
     private static void productOne() {
-        Forge forge = done(".inputs a b c\n.outputs z\n.names y t z\n01 1\n.names a b a y\n110 1\n.names a c a t\n110 0\n.end");
+        Forge forge = done(".inputs a b c\n.outputs z\n.names y t z\n01 1\n.names a b a y\n110 1\n"
+                + ".names a c a t\n110 0\n.end");
         due("rewrite()", forge.rewrite(), 2);
         due("z is 1", forge.output(0), 1);
         Forge one = done(TWO + ".names a b y\n11 1\n10 1\n.end");
@@ -780,7 +797,8 @@ public final class GraphEdgesTest extends Checks {
 
     private static void tooGreat() {
         says("If there would be a 201st gate, the call is TOO GREAT (read)", GraphEdgesTest::readTooGreat);
-        says("If there would be a 201st gate, the call is TOO GREAT (balance, reduce)", GraphEdgesTest::twoHundredAnew);
+        says("If there would be a 201st gate, the call is TOO GREAT (balance, reduce)",
+                GraphEdgesTest::twoHundredAnew);
         says("If there would be a 201st gate, the call is TOO GREAT (rewrite)", GraphEdgesTest::rewriteTooGreat);
         says("so is rewriting where a gate .. has more than 300 cuts that aren't spare", GraphEdgesTest::manyCuts);
         says("(any, also one that no output needs)", GraphEdgesTest::manyCutsUnneeded);
@@ -814,14 +832,16 @@ public final class GraphEdgesTest extends Checks {
     }
 
     private static void rewriteTooGreat() {
-        Forge most = done(woven("a b c d e f", "Aa Z Y X", "a b c A;c e B;A e C;e B D;A f E;f D F;C F B G;C A E H;C H I;"
-                + "D I D J;G J G K;I E J L;H J M;I L N;J M K O;O M J P;L P Q;M L R;R L R S;M S T;Q N O U;S S O V;P P T W;"
-                + "W Q R X;X U Y;S U W Z;T Y Y Aa"));
+        Forge most = done(woven("a b c d e f", "Aa Z Y X",
+                "a b c A;c e B;A e C;e B D;A f E;f D F;C F B G;C A E H;C H I;"
+                + "D I D J;G J G K;I E J L;H J M;I L N;J M K O;O M J P;L P Q;M L R;"
+                + "R L R S;M S T;Q N O U;S S O V;P P T W;W Q R X;X U Y;S U W Z;T Y Y Aa"));
         due("200 gates", most.rewrite(), 200);
         due("all of them", most.graph(2), 200);
-        Forge great = done(woven("a b c d e f", "Ab Aa Z Y", "a b c A;c e B;A e C;e B D;A f E;f A F;C F B G;C A E H;C H I;"
-                + "D I D J;G J G K;I E J L;H J M;I L N;J M K O;O M J P;L P Q;M L R;R L R S;M S T;Q N O U;S S O V;S Q S W;"
-                + "W Q R X;X U Y;V S Z;T Y Y Aa;Y Y Aa Ab"));
+        Forge great = done(woven("a b c d e f", "Ab Aa Z Y",
+                "a b c A;c e B;A e C;e B D;A f E;f A F;C F B G;C A E H;C H I;"
+                + "D I D J;G J G K;I E J L;H J M;I L N;J M K O;O M J P;L P Q;M L R;"
+                + "R L R S;M S T;Q N O U;S S O V;S Q S W;W Q R X;X U Y;V S Z;T Y Y Aa;Y Y Aa Ab"));
         great.cover(3);
         Forge before = great.copy();
         thrown("201 gates", TOO_GREAT, () -> great.rewrite());

@@ -188,7 +188,8 @@ public final class LibraryEdgesTest extends Checks {
     // ---- faults
 
     private static void faults() {
-        says("1 a line (or the end) that can't come there or isn't as it must be, or is the 13th cell", LibraryEdgesTest::one);
+        says("1 a line (or the end) that can't come there or isn't as it must be, or is the 13th cell",
+                LibraryEdgesTest::one);
         says("2 a name that a cell has already", LibraryEdgesTest::two);
         says("of a line 1 goes first (library)", LibraryEdgesTest::oneGoesFirst);
         says("FAULTS, a kind at a line as in 1", LibraryEdgesTest::faultLines);
@@ -318,7 +319,8 @@ public final class LibraryEdgesTest extends Checks {
     private static void matches() {
         says("An input's own literal is GIVEN, at TIME 0.", LibraryEdgesTest::given);
         says("Other literals (not 0 and 1) may be MADE", LibraryEdgesTest::notFixedOnes);
-        says("the nodes at its pins are those of a cut of the gate for K 3 that isn't spare", LibraryEdgesTest::cutOfThree);
+        says("the nodes at its pins are those of a cut of the gate for K 3 that isn't spare",
+                LibraryEdgesTest::cutOfThree);
         says("the nodes at its pins are those of a cut (all tables)", LibraryEdgesTest::allTables);
         says("each once (itself or its opposite)", LibraryEdgesTest::eachOnce);
         says("and the cell gives the literal, whatever the nodes of the cut are", LibraryEdgesTest::whatever);
@@ -337,7 +339,8 @@ public final class LibraryEdgesTest extends Checks {
     }
 
     private static void notFixedOnes() {
-        Forge forge = mappedBy(".inputs a\n.outputs y z\n.names y\n.names z\n1\n.end", "cell one 1 1 11\ncell zero 1 1 00\n.end");
+        Forge forge = mappedBy(".inputs a\n.outputs y z\n.names y\n.names z\n1\n.end",
+                "cell one 1 1 11\ncell zero 1 1 00\n.end");
         due("0 and 1 are not made", forge.mapped(0), 0);
         due("their time", forge.mapped(2), 0);
         thrown("no instance", PLACE, () -> forge.instance(0, 0));
@@ -385,9 +388,11 @@ public final class LibraryEdgesTest extends Checks {
     }
 
     private static void whatever() {
-        String text = ".inputs a b c\n.outputs y p q\n.names a b p\n11 1\n.names a c q\n01 1\n.names p q y\n11 1\n.end";
+        String text = ".inputs a b c\n.outputs y p q\n.names a b p\n11 1\n.names a c q\n01 1\n.names p q y\n"
+                + "11 1\n.end";
         Forge forge = done(text);
-        due("of nodes that are never 1 together", kit(forge, "cell and 1 1 0001\ncell but 1 1 0010\ncell zero 1 1 0000\n.end").map(), 3);
+        due("of nodes that are never 1 together", kit(forge, "cell and 1 1 0001\ncell but 1 1 0010\n"
+                + "cell zero 1 1 0000\n.end").map(), 3);
         due("y is 0 by the three inputs, but no cell of three pins is", forge.instance(2, 1), 0);
         due("with one", kit(forge, "cell and 1 5 0001\ncell but 1 5 0010\ncell zero 1 1 00000000\n.end").map(), 3);
         due("it is made by that", forge.instance(2, 1), 2);
@@ -415,16 +420,19 @@ public final class LibraryEdgesTest extends Checks {
     }
 
     private static void times() {
-        Forge forge = mappedBy(".inputs a b c d e\n.outputs y\n.names a b c d e y\n11111 1\n.end", "cell and 999 99 0001\n.end");
+        Forge forge = mappedBy(".inputs a b c d e\n.outputs y\n.names a b c d e y\n11111 1\n.end",
+                "cell and 999 99 0001\n.end");
         due("four instances", forge.mapped(0), 4);
         due("four areas", forge.mapped(1), 3996);
         due("four delays", forge.mapped(2), 396);
         for (int i = 0; i < 4; i++) {
             due("time of instance " + i, forge.instance(i, 2), 99 * (i + 1));
         }
-        Forge first = mappedBy(".inputs a b\n.outputs y\n.names a b y\n01 1\n.end", "cell and 1 1 0001\ncell inv 1 5 10\n.end");
+        Forge first = mappedBy(".inputs a b\n.outputs y\n.names a b y\n01 1\n.end",
+                "cell and 1 1 0001\ncell inv 1 5 10\n.end");
         due("the greatest time is at the first pin", first.mapped(2), 6);
-        Forge second = mappedBy(".inputs a b\n.outputs y\n.names a b y\n10 1\n.end", "cell and 1 1 0001\ncell inv 1 5 10\n.end");
+        Forge second = mappedBy(".inputs a b\n.outputs y\n.names a b y\n10 1\n.end",
+                "cell and 1 1 0001\ncell inv 1 5 10\n.end");
         due("the greatest time is at the second pin", second.mapped(2), 6);
     }
 
@@ -434,8 +442,10 @@ public final class LibraryEdgesTest extends Checks {
         says("A literal's plain match is that of the least time", LibraryEdgesTest::leastTime);
         says("of several that of the least area", LibraryEdgesTest::leastArea);
         says("then of the first cell", LibraryEdgesTest::firstCell);
-        says("then with the least literal at the first pin, at the second, at the third", LibraryEdgesTest::leastLiterals);
-        says("Its turn is that of the least time; then of the least area, then of the first cell.", LibraryEdgesTest::whichTurn);
+        says("then with the least literal at the first pin, at the second, at the third",
+                LibraryEdgesTest::leastLiterals);
+        says("Its turn is that of the least time; then of the least area, then of the first cell.",
+                LibraryEdgesTest::whichTurn);
         says("It is made by its plain match, or by its turn, if it has no plain one", LibraryEdgesTest::noPlain);
         says("or one of a greater time", LibraryEdgesTest::greaterTime);
         says("or of the same time and a greater area", LibraryEdgesTest::greaterArea);
@@ -554,14 +564,16 @@ public final class LibraryEdgesTest extends Checks {
         due("a literal once, though an output and at a pin", both.mapped(0), 2);
         Forge twice = mappedBy(".inputs a b\n.outputs y z\n.names a b y\n11 0\n.names b a z\n11 0\n.end", NANDS);
         due("a literal once, though two outputs'", twice.mapped(0), 1);
-        Forge mixed = mappedBy(".inputs a b\n.outputs a zero y one\n.names zero\n.names one\n1\n.names a b y\n11 0\n.end", NANDS);
+        Forge mixed = mappedBy(".inputs a b\n.outputs a zero y one\n.names zero\n.names one\n1\n.names a b y\n"
+                + "11 0\n.end", NANDS);
         due("given ones, 0 and 1 are none", mixed.mapped(0), 1);
         Forge unneeded = mappedBy(unneeded(ofGates(9)), NANDS);
         due("gates that no output needs are none", unneeded.mapped(0), 0);
     }
 
     private static void anotherGraph() {
-        Forge forge = mappedBy(".inputs a b c d\n.outputs y\n.names a b c d y\n1111 1\n.end", "cell and 1 1 0001\n.end");
+        Forge forge = mappedBy(".inputs a b c d\n.outputs y\n.names a b c d y\n1111 1\n.end",
+                "cell and 1 1 0001\n.end");
         due("time", forge.mapped(2), 3);
         due("a sign", forge.mappedSign(8), 'a');
         forge.balance();
@@ -574,7 +586,7 @@ public final class LibraryEdgesTest extends Checks {
         isInstance(forge, 2, 14, 0, 2, 10, 12);
     }
 
-    /** Of 200 gates and eight inputs the instances, from one to the next, give what the graph gives, at their times. */
+    /** Of 200 gates and eight inputs the instances give what the graph gives, each at its time. */
     private static void greatestGraph() {
         Forge forge = mappedBy(unlikeGates(), "cell nand 3 2 1110\ncell inv 1 1 10\ncell and3 7 3 00000001\n.end");
         int count = forge.mapped(0);
@@ -648,7 +660,8 @@ public final class LibraryEdgesTest extends Checks {
         due("one of two outputs", kit(one, "cell nand 2 2 1110\n.end").map(), NONE);
         Forge deep = done(AND3);
         due("one at a pin", kit(deep, "cell nand 2 2 1110\n.end").map(), NONE);
-        Forge unneeded = done(".inputs a b c\n.outputs y\n.names t u y\n-1 1\n.names a c u\n11 1\n.names a b t\n10 1\n.end");
+        Forge unneeded = done(".inputs a b c\n.outputs y\n.names t u y\n-1 1\n.names a c u\n11 1\n.names a b t\n"
+                + "10 1\n.end");
         due("one that no output needs is no hindrance", kit(unneeded, "cell and 2 2 0001\n.end").map(), 1);
     }
 
@@ -726,7 +739,8 @@ public final class LibraryEdgesTest extends Checks {
     private static void asking() {
         says("0 how many instances, 1 their areas together", LibraryEdgesTest::areasTogether);
         says("2 the greatest time of an output's literal (0 of 0 and 1)", LibraryEdgesTest::greatestTime);
-        says("IllegalStateException if nothing is; IllegalArgumentException for another what.", LibraryEdgesTest::otherOfMapped);
+        says("IllegalStateException if nothing is; IllegalArgumentException for another what.",
+                LibraryEdgesTest::otherOfMapped);
         says("IndexOutOfBoundsException if there is no such instance or pin", LibraryEdgesTest::noSuchInstance);
         says("IllegalArgumentException if what is below 0. (instance)", LibraryEdgesTest::whatBelowZero);
     }
@@ -741,9 +755,11 @@ public final class LibraryEdgesTest extends Checks {
 
     private static void greatestTime() {
         due("of one output", mappedBy(XOR, NANDS).mapped(2), 5);
-        due("of the first of two", mappedBy(".inputs a b c\n.outputs y z\n.names a b c y\n111 1\n.names a b z\n11 1\n.end",
+        due("of the first of two", mappedBy(".inputs a b c\n.outputs y z\n.names a b c y\n111 1\n.names a b z\n"
+                + "11 1\n.end",
                 "cell and 1 3 0001\n.end").mapped(2), 6);
-        due("of the last of two", mappedBy(".inputs a b c\n.outputs z y\n.names a b c y\n111 1\n.names a b z\n11 1\n.end",
+        due("of the last of two", mappedBy(".inputs a b c\n.outputs z y\n.names a b c y\n111 1\n.names a b z\n"
+                + "11 1\n.end",
                 "cell and 1 3 0001\n.end").mapped(2), 6);
         due("beside 0, 1 and an input", mappedBy(".inputs a b\n.outputs a zero y one\n.names zero\n.names one\n1\n"
                 + ".names a b y\n11 1\n.end", "cell and 1 3 0001\n.end").mapped(2), 3);
@@ -803,7 +819,8 @@ public final class LibraryEdgesTest extends Checks {
         says("Sign k of what is mapped as a text; NONE behind its end.", LibraryEdgesTest::signs);
         says("IndexOutOfBoundsException if k is below 0. (mappedSign)", LibraryEdgesTest::signBelowZero);
         says("(of 0 and 1 as in 3)", LibraryEdgesTest::fixedOutputs);
-        says("of a gate's (not the opposite) n_ and its number, of an opposite m_ and the node's number", LibraryEdgesTest::literalNames);
+        says("of a gate's (not the opposite) n_ and its number, of an opposite m_ and the node's number",
+                LibraryEdgesTest::literalNames);
     }
 
     private static void signs() {
@@ -836,9 +853,11 @@ public final class LibraryEdgesTest extends Checks {
     }
 
     private static void literalNames() {
-        Forge forge = mappedBy(".inputs a b\n.outputs y z n\n.names a b y\n11 1\n.names a b z\n11 0\n.names b n\n0 1\n.end",
+        Forge forge = mappedBy(".inputs a b\n.outputs y z n\n.names a b y\n11 1\n.names a b z\n11 0\n.names b n\n"
+                + "0 1\n.end",
                 "cell and 1 1 0001\ncell inv 1 1 10\n.end");
-        written("all kinds of names", mappedText(forge), ".inputs a b\n.outputs y z n\n.gate inv b m_2\n.gate and a b n_3\n"
+        written("all kinds of names", mappedText(forge), ".inputs a b\n.outputs y z n\n.gate inv b m_2\n"
+                + ".gate and a b n_3\n"
                 + ".gate inv n_3 m_3\n.names n_3 y\n1 1\n.names m_3 z\n1 1\n.names m_2 n\n1 1\n.end\n");
         Forge clash = mappedBy(".inputs m_2 n_3\n.outputs y\n.names m_2 n_3 y\n10 1\n.end",
                 "cell and 1 1 0001\ncell inv 1 1 10\n.end");

@@ -371,7 +371,8 @@ public final class PromiseTest extends Checks {
         Forge xor = done(XOR);
         due("a sum as dear as what is freed is not taken", xor.rewrite(), 3);
         due("y", xor.output(0), 11);
-        Forge more = done(".inputs a b c d\n.outputs G\n.names a d B\n11 1\n.names B b D\n11 1\n.names D a G\n11 1\n.end");
+        Forge more = done(".inputs a b c d\n.outputs G\n.names a d B\n11 1\n.names B b D\n11 1\n.names D a G\n"
+                + "11 1\n.end");
         due("((a d) b) a", more.graph(2), 3);
         due("a b, (a b) d is cheaper, but the old gates stay", more.rewrite(), 4);
         due("a b", more.gate(7, 0) * 100 + more.gate(7, 1), 204);
@@ -489,7 +490,8 @@ public final class PromiseTest extends Checks {
     }
 
     private static String cuts301() {
-        return woven("a b c d e f g", "O N M L K J", "f f g A;A g A B;A g B C;C A C D;D D C E;C C E F;D D F G;G E G H;"
+        return woven("a b c d e f g", "O N M L K J",
+                "f f g A;A g A B;A g B C;C A C D;D D C E;C C E F;D D F G;G E G H;"
                 + "G G H I;I G I J;J J H K;I I J L;J K L M;M M L N;N N N O");
     }
 
@@ -570,7 +572,8 @@ public final class PromiseTest extends Checks {
         thrown("sign(0) before a cover", STATE, () -> forge.sign(0));
         forge.cover(2);
         thrown("sign(-1)", PLACE, () -> forge.sign(-1));
-        written("a cover", coverText(forge), ".inputs a b\n.outputs y\n.names a b n_5\n00 1\n11 1\n.names n_5 y\n0 1\n.end\n");
+        written("a cover", coverText(forge), ".inputs a b\n.outputs y\n.names a b n_5\n00 1\n11 1\n.names n_5 y\n"
+                + "0 1\n.end\n");
         due("behind the end", forge.sign(coverText(forge).length()), NONE);
         due("far behind", forge.sign(Integer.MAX_VALUE), NONE);
         Forge wires = done(WIRES);

@@ -284,11 +284,13 @@ public final class RefusalTest extends Checks {
 
     /** The same on an object that has read, remade, covered and mapped other graphs, and on a new one. */
     private static void usedBefore() {
-        String[] finals = {XOR, ".inputs a b c d e f g h\n.outputs h y z\n.names f g y\n11 1\n.names e d z\n00 0\n.end"};
+        String[] finals = {XOR, ".inputs a b c d e f g h\n.outputs h y z\n.names f g y\n11 1\n.names e d z\n"
+                + "00 0\n.end"};
         for (String text : finals) {
             for (String change : CHANGES) {
                 Forge used = isLibrary("cell nand 1 1 1110\ncell inv 1 1 10\ncell maj 1 1 00010111\n.end");
-                String other = ".inputs a b c\n.outputs y z\n.names a b c y\n111 1\n10- 1\n011 1\n.names y a b z\n011 1\n.end";
+                String other = ".inputs a b c\n.outputs y z\n.names a b c y\n111 1\n10- 1\n011 1\n"
+                        + ".names y a b z\n011 1\n.end";
                 useTwice(used, other, change);
                 Forge fresh = new Forge();
                 for (Forge forge : new Forge[] {used, fresh}) {
@@ -317,7 +319,8 @@ public final class RefusalTest extends Checks {
 
     private static void refusedBefore() {
         String[] bad = {".inputs a b c\n.outputs c\n.names u v\n.names v u\n.end", ".inputs a b c\n.outputs q\n.end",
-            ".inputs a\n.outputs a\n.names y\n" + "1\n".repeat(17), "cell a 1 1 10\ncell b 1 1 01\ncell b 1 1 10\n.end",
+            ".inputs a\n.outputs a\n.names y\n" + "1\n".repeat(17), "cell a 1 1 10\ncell b 1 1 01\n"
+                    + "cell b 1 1 10\n.end",
             ".inputs a\n.outputs a\n.names a\n", ofGates(201)};
         for (String text : bad) {
             Forge used = with(text);

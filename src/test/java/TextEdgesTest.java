@@ -29,7 +29,8 @@ public final class TextEdgesTest extends Checks {
         says("IllegalArgumentException if a byte is none of those", TextEdgesTest::badByteAmongGoodOnes);
         says("UnsupportedOperationException if there would be more than 1600.", TextEdgesTest::mostSigns);
         says("A TEXT has at most 1600 signs", TextEdgesTest::fullText);
-        says("Of several exceptions that one is thrown which the call names first. (put)", TextEdgesTest::badAndTooMany);
+        says("Of several exceptions that one is thrown which the call names first. (put)",
+                TextEdgesTest::badAndTooMany);
         says("The text has its first n signs.", TextEdgesTest::firstSigns);
         says("IllegalArgumentException if n is below 0 or above how many there are.", TextEdgesTest::badEnds);
         says("An object is used for at most 512 calls after it has been made", TextEdgesTest::mostCalls);
@@ -270,7 +271,8 @@ public final class TextEdgesTest extends Checks {
     }
 
     private static void words() {
-        Forge forge = done("   .inputs    a   b  \n .outputs  y\n  .names a    b  y   \n   10     1   \n 01 1\n   .end   ");
+        Forge forge = done("   .inputs    a   b  \n .outputs  y\n  .names a    b  y   \n   10     1   \n 01 1\n"
+                + "   .end   ");
         values(forge, 0, 1, 1, 0);
         fault(".inputsa\n.outputs a\n.end", 1, 0);
         fault(".inputs a\n.outputs a\n. end", 1, 2);
